@@ -65,22 +65,38 @@ public final class MaskPlays {
     /** Only in the code of tests, where it has to be told from the difference. */
     private static final int NEGATE = 39;
 
-    private final byte[] tape = new byte[MOST_BYTES];
-    private int tapeLength;
+    private final byte[] tape;
+    private int tapeLength = 0;
     private int errorPlace = -1;
-    private final Tokens tokens = new Tokens(tape);
+    private final Tokens tokens;
+    private final Grammar grammar;
+    private final Telling telling;
+    /** What was told last. */
     private Book book = new Book();
-    private Book spare = new Book();
-    private final Grammar grammar = new Grammar(tokens, spare);
-    private final Telling telling = new Telling(tokens, spare);
-    private final Step step = new Step();
-    private final Stage stage = new Stage(step);
-    private final Stage trial = new Stage(step);
+    /** The one into which is read: so that all stays if there is an error. */
+    private Book spare;
+    private final Step step;
+    private final Stage stage;
+    /** A copy of the stage for evenings that only would be. */
+    private final Stage trial;
     private final Part tried = new Part();
     private final Part alsoTried = new Part();
     private final Text text = new Text();
 
     public MaskPlays() {
+        // What several share goes to them as a local: nothing is taken out of an object half made.
+        byte[] bytes = new byte[MOST_BYTES];
+        Tokens reading = new Tokens(bytes);
+        Book empty = new Book();
+        Step taking = new Step();
+        tape = bytes;
+        tokens = reading;
+        grammar = new Grammar(reading, empty);
+        telling = new Telling(reading, empty);
+        spare = empty;
+        step = taking;
+        stage = new Stage(taking);
+        trial = new Stage(taking);
     }
 
     // ---- the language
