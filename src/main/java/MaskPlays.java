@@ -995,9 +995,9 @@ public final class MaskPlays {
             if (book.noteCount >= MOST_NOTES) {
                 return 4;
             }
-            int first = at + 1;
-            int code = Note.NO_TEST;
             at++;
+            int first = at;
+            int code = Note.NO_TEST;
             for (int n = 0; n < MOST_TOKENS && tokens.kindAt(at) != SEMICOLON; n++) {
                 if (tokens.kindAt(at) == WHEN) {
                     code = tokens.markAt(at);
@@ -1321,7 +1321,7 @@ public final class MaskPlays {
         }
 
         boolean holdsName(long name, int from, int to) {
-            for (int i = Math.max(from, 0); i < to && i < size && i < names.length; i++) {
+            for (int i = from < 0 ? 0 : from; i < to && i < size && i < names.length; i++) {
                 if (names[i] == name) {
                     return true;
                 }
@@ -1430,11 +1430,10 @@ public final class MaskPlays {
 
         /** Steps the part, if this can be done, and returns whether it could. */
         boolean take(Part part) {
-            renamed = 0;
-            changed = false;
             if (!canBeTaken(part)) {
                 return false;
             }
+            renamed = 0;
             before.setTo(part);
             findOpenNames();
             findMasksAround();

@@ -256,7 +256,7 @@ final class AgainstReferenceTest {
         Reference want = new Reference();
         int errors = 0;
         int calls = 0;
-        for (int books = 1 + number(2); books > 0; books--) {
+        for (int books = once(8) ? 6 : 1 + number(2); books > 0; books--) {
             String tape = tape();
             byte[] bytes = tape.getBytes(StandardCharsets.ISO_8859_1);
             if (bytes.length > 2000) {

@@ -13,6 +13,8 @@ final class PlaysTest {
         steps();
         renaming();
         renamingOfSeveral();
+        renamingBehindAnotherStep();
+        manyFreshNames();
         noRenaming();
         actorsWithNamesOfMasks();
         stepsThatAreTooLarge();
@@ -193,6 +195,45 @@ final class PlaysTest {
         // The one in the middle stays.
         dueStep("mask y([mask x(mask y(mask v(mask y([x [v y]])))) y])",
                 "mask y(mask z0(mask v(mask z0([y [v z0]]))))", 2);
+    }
+
+    /** The open names of an earlier step are nothing to the next one. */
+    private static void renamingBehindAnotherStep() {
+        MaskPlays x = Dues.told("actor a; play p is mask y([mask x(x) y]);"
+                + " play q is [mask x(mask y([x y])) a]; play r is mask y([mask x(mask y([x y])) y]);");
+        x.doStep(0);
+        Dues.due("renamedByStep q", x.renamedByStep(1), 0);
+        Dues.due("renamedByStep r", x.renamedByStep(2), 1);
+        Dues.due("renamedByStep q", x.renamedByStep(1), 0);
+        x.doStep(1);
+        Dues.dueText(x, 1, "mask y([a y])");
+        x.doStep(2);
+        Dues.dueText(x, 2, "mask y(mask z0([y z0]))");
+    }
+
+    private static void manyFreshNames() {
+        dueStep("mask y([mask x(mask y(mask z0(x))) y])", "mask y(mask z1(mask z0(y)))", 1);
+        dueStep("play nine is [mask z0(mask z1(mask z2(a))) mask z3(mask z4(a)) mask z5(mask z6(mask z7(mask z8(a))))]; ",
+                "mask y([mask x(mask y([x y [nine mask z9(a)]])) y])", 10, 1);
+        dueStep("play nine is [mask z0(mask z1(mask z2(a))) mask z3(mask z4(a)) mask z5(mask z6(mask z7(mask z8(a))))]; ",
+                "mask y([mask x(mask y([x y [nine mask z10(a)]])) y])", 9, 1);
+        for (int n = 0; n <= 150; n++) {
+            StringBuilder name = new StringBuilder();
+            for (int shift = 54; shift >= 0; shift -= 6) {
+                int sign = MaskPlays.Words.signAt(MaskPlays.Words.zName(n), shift);
+                name.append(sign == 0 ? "" : Character.toString(sign));
+            }
+            Dues.due("zName " + n, name.toString(), "z" + n);
+        }
+    }
+
+    /** As above, of a part with the mask y ahead: its name is told by its number. */
+    private static void dueStep(String plays, String part, int fresh, int renamed) {
+        MaskPlays x = Dues.told("actor a; " + plays + "play p is " + part + ";");
+        Dues.due("renamedByStep of " + part, x.renamedByStep(1), renamed);
+        x.doStep(1);
+        String start = "mask y(mask z" + fresh + "([[y z" + fresh + "] ";
+        Dues.due("text of " + part, Dues.textOf(x, 1).substring(0, start.length()), start);
     }
 
     private static void noRenaming() {

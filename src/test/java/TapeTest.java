@@ -23,6 +23,7 @@ final class TapeTest {
         tooMany();
         tooManyParts();
         theFirstErrorIsTold();
+        readingOneBehindAnother();
         Dues.end();
     }
 
@@ -196,6 +197,13 @@ final class TapeTest {
         Dues.dueError(1, when + "1=1^=1;");
         Dues.dueError(1, when + "1=1 and ^;");
         Dues.dueError(1, when + "1=1 or ^or 1=1;");
+        Dues.dueError(1, when + "1=1 or ^;");
+        Dues.dueError(1, when + "[1=1 or ^];");
+        Dues.dueError(1, when + "[1=1 and ^];");
+        Dues.dueError(1, when + "1=1+^;");
+        Dues.dueError(1, when + "1=1-^;");
+        Dues.dueError(1, when + "1=1*^;");
+        Dues.dueError(1, when + "1=(1/^);");
         Dues.dueError(1, when + "(1^=1);");
         Dues.dueError(1, when + "[1^];");
         Dues.dueError(1, when + "[1=1^);");
@@ -243,6 +251,10 @@ final class TapeTest {
         Dues.dueError(1, when + "not [not [not -(-max^(1,1))=1]];");
         Dues.dueError(1, when + "not [not [not -(-^(1))=1]];");
         Dues.dueError(1, when + "not [not [not -(-^-1)=1]];");
+        Dues.told(when + "1=" + "min(".repeat(8) + "1" + ",1)".repeat(8) + ";");
+        Dues.dueError(1, when + "1=" + "min(".repeat(8) + "max^(1" + ",1)".repeat(9) + ";");
+        Dues.told(when + "1=" + "max(1,".repeat(8) + "1" + ")".repeat(8) + ";");
+        Dues.dueError(1, when + "1=" + "max(1,".repeat(8) + "min^(1,1" + ")".repeat(9) + ";");
         // A - between two values makes nothing deeper.
         Dues.told(when + "1" + "-1".repeat(30) + "=1;");
     }
@@ -347,5 +359,23 @@ final class TapeTest {
         Dues.dueError(3, "actor a; step ^q; actor a;");
         Dues.dueError(3, "actor a; play p is [^b mask a(a)];");
         Dues.dueError(2, "actor a; play p is [mask ^a(a) b];");
+    }
+
+    /** What one tape told, or where its reading ended, is nothing for the next one. */
+    private static void readingOneBehindAnother() {
+        MaskPlays x = new MaskPlays();
+        Dues.due("an error below a mask", Dues.teach(x, "play p is mask x(mask y([x z]));"), 3);
+        Dues.due("the mask is none now", Dues.teach(x, "play p is mask z(x);"), 3);
+        Dues.due("errorAt", x.errorAt(), 17);
+        Dues.due("the mask is none now", Dues.teach(x, "play p is mask z(y);"), 3);
+        String book = "actor a; play p is a;" + "give p to p when [1+2*3-4=3 and not evening<0] or 1=2;".repeat(9);
+        for (int n = 0; n < 80; n++) {
+            Dues.due("teach " + n, Dues.teach(x, book), 0);
+            Dues.due("passEvenings " + n, x.passEvenings(1), 6);
+        }
+        Dues.due("an unknown name", Dues.teach(x, "step p;"), 3);
+        Dues.due("less", Dues.teach(x, "actor b; play q is [b b]; step q;"), 0);
+        Dues.due("the same name again", Dues.teach(x, "actor p; play a is p; play b is a;"), 0);
+        Dues.dueText(x, 1, "p");
     }
 }
