@@ -1468,9 +1468,9 @@ public final class MaskPlays {
         private void findUses(Part part) {
             uses = 0;
             long name = part.nameAt(mask);
-            for (int i = mask + 1; i < second && i < isReplaced.length; i++) {
-                isReplaced[i] = part.kindAt(i) == Part.A_NAME && part.nameAt(i) == name
-                        && part.maskOf(i) == mask;
+            for (int i = 0; i < isReplaced.length; i++) {
+                isReplaced[i] = i > mask && i < second && part.kindAt(i) == Part.A_NAME
+                        && part.nameAt(i) == name && part.maskOf(i) == mask;
                 if (isReplaced[i]) {
                     uses++;
                 }
@@ -1481,10 +1481,16 @@ public final class MaskPlays {
             openCount = 0;
             for (int i = second; i < behind; i++) {
                 boolean isOpen = before.kindAt(i) == Part.A_NAME && before.maskOf(i) < second;
-                if (isOpen && openCount < openNames.length && !isOpenName(before.nameAt(i))) {
-                    openNames[openCount] = before.nameAt(i);
-                    openCount++;
+                if (isOpen && !isOpenName(before.nameAt(i))) {
+                    addOpenName(before.nameAt(i));
                 }
+            }
+        }
+
+        private void addOpenName(long name) {
+            if (openCount >= 0 && openCount < openNames.length) {
+                openNames[openCount] = name;
+                openCount++;
             }
         }
 
@@ -1498,10 +1504,10 @@ public final class MaskPlays {
         }
 
         private void findMasksAround() {
-            for (int i = mask + 1; i < second && i < isAroundReplaced.length; i++) {
+            for (int i = 0; i < isAroundReplaced.length; i++) {
                 isAroundReplaced[i] = false;
             }
-            for (int i = mask + 1; i < second && i < isReplaced.length; i++) {
+            for (int i = 0; i < isReplaced.length; i++) {
                 if (isReplaced[i]) {
                     markMasksAround(i);
                 }
@@ -1510,17 +1516,18 @@ public final class MaskPlays {
 
         private void markMasksAround(int use) {
             int outer = before.outerAt(use);
-            for (int n = 0; n < MOST_PARTS && outer > mask && outer < isAroundReplaced.length; n++) {
-                isAroundReplaced[outer] = true;
+            for (int n = 0; n < MOST_PARTS && outer > mask; n++) {
+                if (outer >= 0 && outer < isAroundReplaced.length) {
+                    isAroundReplaced[outer] = true;
+                }
                 outer = before.outerAt(outer);
             }
         }
 
         /** In the order of the parts masks farther out come ahead of those farther in. */
         private void renameMasks() {
-            for (int i = mask + 1; i < second && i < isAroundReplaced.length; i++) {
-                boolean isMask = before.kindAt(i) == Part.A_MASK;
-                if (isMask && isAroundReplaced[i] && isOpenName(before.nameAt(i))) {
+            for (int i = 0; i < isAroundReplaced.length; i++) {
+                if (isAroundReplaced[i] && isOpenName(before.nameAt(i))) {
                     before.renameMask(i, freshNameBelow(i));
                     renamed++;
                 }
@@ -1540,15 +1547,14 @@ public final class MaskPlays {
 
         private void build() {
             made.clear();
-            made.append(before, 0, scene);
-            for (int i = mask + 1; i < second && i < isReplaced.length; i++) {
+            for (int i = 0; i < before.size && i < isReplaced.length; i++) {
+                boolean goes = i == scene || i == mask || i >= second && i < behind;
                 if (isReplaced[i]) {
                     made.append(before, second, behind);
-                } else {
+                } else if (!goes) {
                     made.add(before.kindAt(i), before.nameAt(i));
                 }
             }
-            made.append(before, behind, before.size);
             made.link();
         }
     }
