@@ -5,6 +5,8 @@ import java.util.Arrays;
 final class Dues {
     private static int asked = 0;
     private static int wrong = 0;
+    /** What stands ahead of each wrong answer. */
+    private static String about = "";
 
     /** A call that answers a number; what is so counts 1 or 0. */
     interface Call {
@@ -14,11 +16,19 @@ final class Dues {
     private Dues() {
     }
 
+    static int asked() {
+        return asked;
+    }
+
+    static void about(String what) {
+        about = what;
+    }
+
     static void due(String call, long got, long want) {
-        asked++;
-        if (got != want) {
-            wrong++;
-            System.out.println(call + " answered " + got + ", due is " + want);
+        if (got == want) {
+            asked++;
+        } else {
+            due(call, Long.toString(got), Long.toString(want));
         }
     }
 
@@ -30,7 +40,7 @@ final class Dues {
         asked++;
         if (!got.equals(want)) {
             wrong++;
-            System.out.println(call + " answered " + got + ", due is " + want);
+            System.out.println(about + call + " answered " + got + ", due is " + want);
         }
     }
 
@@ -91,6 +101,36 @@ final class Dues {
         MaskPlays x = new MaskPlays();
         due("teach " + text, teach(x, text), error);
         due("errorAt of " + text, x.errorAt(), place);
+    }
+
+    /** The play has this text behind its first step, and so many of its masks are renamed by it. */
+    static void dueStep(String told, String part, String text, int renamed) {
+        MaskPlays x = told(told + "play p is " + part + ";");
+        int play = x.plays() - 1;
+        long before = x.digest();
+        due("renamedByStep of " + part, x.renamedByStep(play), renamed);
+        due("digest behind it", x.digest(), before);
+        x.doStep(play);
+        dueText(x, play, text);
+        due("stepsDone", x.stepsDone(play), 1);
+    }
+
+    static void dueStep(String part, String text, int renamed) {
+        dueStep("actor a; actor b; ", part, text, renamed);
+    }
+
+    /** By a gift one sees whether a test holds. */
+    static boolean holds(String told, String test) {
+        MaskPlays x = told("actor a; play g is a; " + told + " give g to g when " + test + ";");
+        return x.passEvenings(1) == 1;
+    }
+
+    static void dueHolds(String test) {
+        due(test, holds("", test), true);
+    }
+
+    static void dueNot(String test) {
+        due(test, holds("", test), false);
     }
 
     static String textOf(MaskPlays x, int play) {

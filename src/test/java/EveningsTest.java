@@ -112,56 +112,42 @@ final class EveningsTest {
         Dues.due("sizeOf q", x.sizeOf(1), 31);
     }
 
-    /** By a gift one sees whether the test holds. */
-    private static boolean holds(String told, String test) {
-        MaskPlays x = Dues.told("actor a; play g is a; " + told + " give g to g when " + test + ";");
-        return x.passEvenings(1) == 1;
-    }
-
-    private static void dueHolds(String test) {
-        Dues.due(test, holds("", test), true);
-    }
-
-    private static void dueNot(String test) {
-        Dues.due(test, holds("", test), false);
-    }
-
     private static void sums() {
-        dueHolds("2+3*4=14");
-        dueHolds("(2+3)*4=20");
-        dueHolds("2-3-4=-5");
-        dueHolds("2-(3-4)=3");
-        dueHolds("100/10/5=2");
-        dueHolds("2*3/4=1");
-        dueHolds("2/4*3=0");
-        dueHolds("7/2=3");
-        dueHolds("-7/2=-3");
-        dueHolds("7/-2=-3");
-        dueHolds("-7/-2=3");
-        dueHolds("5/0=0");
-        dueHolds("-5/(1-1)=0");
-        dueHolds("0/0=0");
-        dueHolds("--5=5");
-        dueHolds("1---1=0");
-        dueHolds("1--1=2");
-        dueHolds("-2*3=-6");
-        dueHolds("min(3,5)=3");
-        dueHolds("max(3,5)=5");
-        dueHolds("min(-3,max(2,7)-10)=-3");
-        dueHolds("min(5,3)+max(5,3)=8");
-        dueHolds("000012=12");
+        Dues.dueHolds("2+3*4=14");
+        Dues.dueHolds("(2+3)*4=20");
+        Dues.dueHolds("2-3-4=-5");
+        Dues.dueHolds("2-(3-4)=3");
+        Dues.dueHolds("100/10/5=2");
+        Dues.dueHolds("2*3/4=1");
+        Dues.dueHolds("2/4*3=0");
+        Dues.dueHolds("7/2=3");
+        Dues.dueHolds("-7/2=-3");
+        Dues.dueHolds("7/-2=-3");
+        Dues.dueHolds("-7/-2=3");
+        Dues.dueHolds("5/0=0");
+        Dues.dueHolds("-5/(1-1)=0");
+        Dues.dueHolds("0/0=0");
+        Dues.dueHolds("--5=5");
+        Dues.dueHolds("1---1=0");
+        Dues.dueHolds("1--1=2");
+        Dues.dueHolds("-2*3=-6");
+        Dues.dueHolds("min(3,5)=3");
+        Dues.dueHolds("max(3,5)=5");
+        Dues.dueHolds("min(-3,max(2,7)-10)=-3");
+        Dues.dueHolds("min(5,3)+max(5,3)=8");
+        Dues.dueHolds("000012=12");
     }
 
     private static void wrapping() {
-        dueHolds("999999*999999=-(729*1000*1000+379967)");
-        dueHolds("65536*32768<0");
-        dueHolds("65536*32768-1>0");
-        dueHolds("65536*65536=0");
-        dueHolds("-(65536*32768)=65536*32768");
-        dueHolds("65536*32768/-1=65536*32768");
-        dueHolds("65536*32767+65535+1=65536*32768");
-        dueHolds("-(65536*32767+65535)-2=65536*32767+65535");
-        dueHolds("65536*32768=-65536*32768");
+        Dues.dueHolds("999999*999999=-(729*1000*1000+379967)");
+        Dues.dueHolds("65536*32768<0");
+        Dues.dueHolds("65536*32768-1>0");
+        Dues.dueHolds("65536*65536=0");
+        Dues.dueHolds("-(65536*32768)=65536*32768");
+        Dues.dueHolds("65536*32768/-1=65536*32768");
+        Dues.dueHolds("65536*32767+65535+1=65536*32768");
+        Dues.dueHolds("-(65536*32767+65535)-2=65536*32767+65535");
+        Dues.dueHolds("65536*32768=-65536*32768");
     }
 
     private static void orders() {
@@ -170,27 +156,27 @@ final class EveningsTest {
         boolean[] equal = {false, false, true, true, true};
         boolean[] more = {false, true, false, false, true};
         for (int n = 0; n < orders.length; n++) {
-            Dues.due("1" + orders[n] + "2", holds("", "1" + orders[n] + "2"), less[n]);
-            Dues.due("2" + orders[n] + "2", holds("", "2" + orders[n] + "2"), equal[n]);
-            Dues.due("2" + orders[n] + "1", holds("", "2" + orders[n] + "1"), more[n]);
+            Dues.due("1" + orders[n] + "2", Dues.holds("", "1" + orders[n] + "2"), less[n]);
+            Dues.due("2" + orders[n] + "2", Dues.holds("", "2" + orders[n] + "2"), equal[n]);
+            Dues.due("2" + orders[n] + "1", Dues.holds("", "2" + orders[n] + "1"), more[n]);
             String wide = "65536*32768" + orders[n] + "65536*32768-1";
-            Dues.due(wide, holds("", wide), less[n]);
+            Dues.due(wide, Dues.holds("", wide), less[n]);
         }
     }
 
     private static void bothAndEither() {
-        dueHolds("1=1 or 1=1 and 1=2");
-        dueHolds("1=2 and 1=1 or 1=1");
-        dueNot("[1=1 or 1=1] and 1=2");
-        dueNot("not 1=2 and 1=2");
-        dueHolds("not [1=2 and 1=2]");
-        dueHolds("not 1=1 or 1=1");
-        dueHolds("not not 1=1");
-        dueNot("not not not 1=1");
-        dueHolds("1=2 or 1=2 or 1=1");
-        dueNot("1=1 and 1=2 and 1=1");
-        dueHolds("[[1=1]]");
-        dueNot("1=2 or [1=1 and not [1=1 or 1=2]]");
+        Dues.dueHolds("1=1 or 1=1 and 1=2");
+        Dues.dueHolds("1=2 and 1=1 or 1=1");
+        Dues.dueNot("[1=1 or 1=1] and 1=2");
+        Dues.dueNot("not 1=2 and 1=2");
+        Dues.dueHolds("not [1=2 and 1=2]");
+        Dues.dueHolds("not 1=1 or 1=1");
+        Dues.dueHolds("not not 1=1");
+        Dues.dueNot("not not not 1=1");
+        Dues.dueHolds("1=2 or 1=2 or 1=1");
+        Dues.dueNot("1=1 and 1=2 and 1=1");
+        Dues.dueHolds("[[1=1]]");
+        Dues.dueNot("1=2 or [1=1 and not [1=1 or 1=2]]");
     }
 
     private static void valuesOfPlays() {
@@ -198,7 +184,7 @@ final class EveningsTest {
         String[] hold = {"size p=7", "masks p=2", "steps p=0", "evening=0", "not finished p", "finished r",
             "same p q", "same q p", "same p p", "not same p r", "size r+masks r*10=12", "size g=1", "-size p<0"};
         for (String test : hold) {
-            Dues.due(test, holds(told, test), true);
+            Dues.due(test, Dues.holds(told, test), true);
         }
         MaskPlays x = Dues.told("actor a; " + told + "play g is a; give g to g when steps p=1 and size p=6;"
                 + "give g to g when steps p=3 and not same p q and evening=1; renew p when evening=0;");

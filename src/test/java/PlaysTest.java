@@ -1,5 +1,7 @@
 /** Promises 12 to 28: what a play is, and what is done by hand. */
 final class PlaysTest {
+    private static final String NINE_NAMES = "[mask z0(mask z1(mask z2(a))) mask z3(mask z4(a))"
+            + " mask z5(mask z6(mask z7(mask z8(a))))]; ";
     private static final int[] NO_PLAYS = {-1, 1, 12, Integer.MIN_VALUE, Integer.MAX_VALUE};
 
     private PlaysTest() {
@@ -117,15 +119,15 @@ final class PlaysTest {
     }
 
     private static void steps() {
-        dueStep("[mask x([x x]) a]", "[a a]", 0);
-        dueStep("[mask x(b) a]", "b", 0);
-        dueStep("[mask x(x) mask x(x)]", "mask x(x)", 0);
-        dueStep("[mask x([x x]) mask x([x x])]", "[mask x([x x]) mask x([x x])]", 0);
-        dueStep("[mask x(mask y([y [x [b x]]])) [a b]]", "mask y([y [[a b] [b [a b]]]])", 0);
-        dueStep("[mask x(mask x(x)) a]", "mask x(x)", 0);
-        dueStep("[mask x([x mask x([x mask y(x)])]) a]", "[a mask x([x mask y(x)])]", 0);
-        dueStep("[mask x([mask y([x y]) x]) a b]", "[[mask y([a y]) a] b]", 0);
-        dueStep("mask y([y [b [mask x([y x]) y]] a])", "mask y([[y [b [y y]]] a])", 0);
+        Dues.dueStep("[mask x([x x]) a]", "[a a]", 0);
+        Dues.dueStep("[mask x(b) a]", "b", 0);
+        Dues.dueStep("[mask x(x) mask x(x)]", "mask x(x)", 0);
+        Dues.dueStep("[mask x([x x]) mask x([x x])]", "[mask x([x x]) mask x([x x])]", 0);
+        Dues.dueStep("[mask x(mask y([y [x [b x]]])) [a b]]", "mask y([y [[a b] [b [a b]]]])", 0);
+        Dues.dueStep("[mask x(mask x(x)) a]", "mask x(x)", 0);
+        Dues.dueStep("[mask x([x mask x([x mask y(x)])]) a]", "[a mask x([x mask y(x)])]", 0);
+        Dues.dueStep("[mask x([mask y([x y]) x]) a b]", "[[mask y([a y]) a] b]", 0);
+        Dues.dueStep("mask y([y [b [mask x([y x]) y]] a])", "mask y([[y [b [y y]]] a])", 0);
         MaskPlays x = Dues.told("actor a; play p is [mask x(x) mask x(x) mask x(x) a]; play q is p;");
         for (int n = 3; n > 0; n--) {
             Dues.due("isFinished", x.isFinished(0), false);
@@ -140,60 +142,45 @@ final class PlaysTest {
         Dues.due("size of the other", x.sizeOf(1), 10);
     }
 
-    /** The play has this text behind its first step, and so many of its masks are renamed by it. */
-    private static void dueStep(String actors, String part, String text, int renamed) {
-        MaskPlays x = Dues.told(actors + "play p is " + part + ";");
-        long before = x.digest();
-        Dues.due("renamedByStep of " + part, x.renamedByStep(0), renamed);
-        Dues.due("digest behind it", x.digest(), before);
-        x.doStep(0);
-        Dues.dueText(x, 0, text);
-        Dues.due("stepsDone", x.stepsDone(0), 1);
-    }
-
-    private static void dueStep(String part, String text, int renamed) {
-        dueStep("actor a; actor b; ", part, text, renamed);
-    }
-
     private static void renaming() {
-        dueStep("mask y([mask x(mask y([x y])) y])", "mask y(mask z0([y z0]))", 1);
-        dueStep("mask y([mask x(mask y(x)) y])", "mask y(mask z0(y))", 1);
-        dueStep("mask y([mask x(mask y([x y])) [a y]])", "mask y(mask z0([[a y] z0]))", 1);
+        Dues.dueStep("mask y([mask x(mask y([x y])) y])", "mask y(mask z0([y z0]))", 1);
+        Dues.dueStep("mask y([mask x(mask y(x)) y])", "mask y(mask z0(y))", 1);
+        Dues.dueStep("mask y([mask x(mask y([x y])) [a y]])", "mask y(mask z0([[a y] z0]))", 1);
         // z0 is the name of something below it: of a mask, a use, an actor, or the mask taken off.
-        dueStep("mask y([mask x(mask y([x y mask z0(a)])) y])", "mask y(mask z1([[y z1] mask z0(a)]))", 1);
-        dueStep("mask z0(mask y([mask x(mask y([x [y z0]])) y]))", "mask z0(mask y(mask z1([y [z1 z0]])))", 1);
-        dueStep("actor z0; ", "mask y([mask x(mask y([x z0])) y])", "mask y(mask z1([y z0]))", 1);
-        dueStep("mask y([mask z0(mask y([z0 y])) y])", "mask y(mask z1([y z1]))", 1);
+        Dues.dueStep("mask y([mask x(mask y([x y mask z0(a)])) y])", "mask y(mask z1([[y z1] mask z0(a)]))", 1);
+        Dues.dueStep("mask z0(mask y([mask x(mask y([x [y z0]])) y]))", "mask z0(mask y(mask z1([y [z1 z0]])))", 1);
+        Dues.dueStep("actor z0; ", "mask y([mask x(mask y([x z0])) y])", "mask y(mask z1([y z0]))", 1);
+        Dues.dueStep("mask y([mask z0(mask y([z0 y])) y])", "mask y(mask z1([y z1]))", 1);
         // z0 is an open name of the second part.
-        dueStep("mask z0(mask y([mask x(mask y([x y])) [y z0]]))", "mask z0(mask y(mask z1([[y z0] z1])))", 1);
-        dueStep("actor z0; ", "mask y([mask x(mask y([x y])) [y z0]])", "mask y(mask z1([[y z0] z1]))", 1);
+        Dues.dueStep("mask z0(mask y([mask x(mask y([x y])) [y z0]]))", "mask z0(mask y(mask z1([[y z0] z1])))", 1);
+        Dues.dueStep("actor z0; ", "mask y([mask x(mask y([x y])) [y z0]])", "mask y(mask z1([[y z0] z1]))", 1);
         // z0 is a name elsewhere: around it, or of a mask in the second part.
-        dueStep("mask z0(mask y([mask x(mask y([x y])) y z0]))", "mask z0(mask y([mask z0([y z0]) z0]))", 1);
-        dueStep("mask y([mask x(mask y([x y])) [y mask z0(z0)]])", "mask y(mask z0([[y mask z0(z0)] z0]))", 1);
-        dueStep("mask y([mask x([x mask z0(mask y([x y]))]) y])", "mask y([y mask z0(mask z0([y z0]))])", 1);
+        Dues.dueStep("mask z0(mask y([mask x(mask y([x y])) y z0]))", "mask z0(mask y([mask z0([y z0]) z0]))", 1);
+        Dues.dueStep("mask y([mask x(mask y([x y])) [y mask z0(z0)]])", "mask y(mask z0([[y mask z0(z0)] z0]))", 1);
+        Dues.dueStep("mask y([mask x([x mask z0(mask y([x y]))]) y])", "mask y([y mask z0(mask z0([y z0]))])", 1);
         // The names below are ruled out also if they stand under a mask with the name of the renamed one.
-        dueStep("mask y([mask x(mask y([x y mask y([y mask z0(y)])])) y])",
+        Dues.dueStep("mask y([mask x(mask y([x y mask y([y mask z0(y)])])) y])",
                 "mask y(mask z1([[y z1] mask y([y mask z0(y)])]))", 1);
         // A mask can get its name from an earlier number, also if it is that of another mask now.
-        dueStep("mask z0([mask x(mask z0([x z0])) z0])", "mask z0(mask z1([z0 z1]))", 1);
-        dueStep("mask z1([mask x(mask z1([x z1])) z1])", "mask z1(mask z0([z1 z0]))", 1);
-        dueStep("mask y([mask x(mask y([x y mask z0(mask z1(mask z3(a)))])) y])",
+        Dues.dueStep("mask z0([mask x(mask z0([x z0])) z0])", "mask z0(mask z1([z0 z1]))", 1);
+        Dues.dueStep("mask z1([mask x(mask z1([x z1])) z1])", "mask z1(mask z0([z1 z0]))", 1);
+        Dues.dueStep("mask y([mask x(mask y([x y mask z0(mask z1(mask z3(a)))])) y])",
                 "mask y(mask z2([[y z2] mask z0(mask z1(mask z3(a)))]))", 1);
     }
 
     private static void renamingOfSeveral() {
         // The outer one gets its name first; the use of it is below the inner one.
-        dueStep("mask y(mask w([mask x(mask y(mask w([x y w]))) [y w]]))",
+        Dues.dueStep("mask y(mask w([mask x(mask y(mask w([x y w]))) [y w]]))",
                 "mask y(mask w(mask z0(mask z1([[[y w] z0] z1]))))", 2);
         // No use of the outer one is below the inner one, so this can get the same name.
-        dueStep("mask y(mask w([mask x(mask y(mask w([x w]))) [y w]]))",
+        Dues.dueStep("mask y(mask w([mask x(mask y(mask w([x w]))) [y w]]))",
                 "mask y(mask w(mask z0(mask z0([[y w] z0]))))", 2);
-        dueStep("mask y([mask x(mask y(mask y([x y]))) y])", "mask y(mask z0(mask z0([y z0])))", 2);
+        Dues.dueStep("mask y([mask x(mask y(mask y([x y]))) y])", "mask y(mask z0(mask z0([y z0])))", 2);
         // Beside one another they have nothing to do with one another.
-        dueStep("mask y([mask x([mask y([x y]) mask y([y [x y]])]) y])",
+        Dues.dueStep("mask y([mask x([mask y([x y]) mask y([y [x y]])]) y])",
                 "mask y([mask z0([y z0]) mask z0([z0 [y z0]])])", 2);
         // The one in the middle stays.
-        dueStep("mask y([mask x(mask y(mask v(mask y([x [v y]])))) y])",
+        Dues.dueStep("mask y([mask x(mask y(mask v(mask y([x [v y]])))) y])",
                 "mask y(mask z0(mask v(mask z0([y [v z0]]))))", 2);
     }
 
@@ -212,42 +199,45 @@ final class PlaysTest {
     }
 
     private static void manyFreshNames() {
-        dueStep("mask y([mask x(mask y(mask z0(x))) y])", "mask y(mask z1(mask z0(y)))", 1);
-        dueStep("play nine is [mask z0(mask z1(mask z2(a))) mask z3(mask z4(a)) mask z5(mask z6(mask z7(mask z8(a))))]; ",
-                "mask y([mask x(mask y([x y [nine mask z9(a)]])) y])", 10, 1);
-        dueStep("play nine is [mask z0(mask z1(mask z2(a))) mask z3(mask z4(a)) mask z5(mask z6(mask z7(mask z8(a))))]; ",
-                "mask y([mask x(mask y([x y [nine mask z10(a)]])) y])", 9, 1);
-        for (int n = 0; n <= 150; n++) {
-            StringBuilder name = new StringBuilder();
-            for (int shift = 54; shift >= 0; shift -= 6) {
-                int sign = MaskPlays.Words.signAt(MaskPlays.Words.zName(n), shift);
-                name.append(sign == 0 ? "" : Character.toString(sign));
+        Dues.dueStep("mask y([mask x(mask y(mask z0(x))) y])", "mask y(mask z1(mask z0(y)))", 1);
+        dueFresh("play nine is " + NINE_NAMES, "mask y([mask x(mask y([x y [nine mask z9(a)]])) y])", 10);
+        dueFresh("play nine is " + NINE_NAMES, "mask y([mask x(mask y([x y [nine mask z10(a)]])) y])", 9);
+        // z0 to z71 in nine plays, all of them below the mask.
+        StringBuilder plays = new StringBuilder("play k0 is a; ");
+        for (int n = 1; n <= 9; n++) {
+            plays.append("play k").append(n).append(" is ");
+            for (int mask = 8 * n - 8; mask < 8 * n; mask++) {
+                plays.append("mask z").append(mask).append('(');
             }
-            Dues.due("zName " + n, name.toString(), "z" + n);
+            plays.append('k').append(n - 1).append(")))))))); ");
         }
+        dueFresh(plays.toString(), "mask y([mask x(mask y([x y k9])) y])", 72);
+        dueFresh(plays.toString(), "mask y([mask x(mask y([x y k8])) y])", 64);
+        dueFresh(plays.toString().replace("z55(", "w("), "mask y([mask x(mask y([x y k9])) y])", 55);
     }
 
-    /** As above, of a part with the mask y ahead: its name is told by its number. */
-    private static void dueStep(String plays, String part, int fresh, int renamed) {
+    /** By its first step one mask y is renamed, and gets z with this number as its name. */
+    private static void dueFresh(String plays, String part, int fresh) {
         MaskPlays x = Dues.told("actor a; " + plays + "play p is " + part + ";");
-        Dues.due("renamedByStep of " + part, x.renamedByStep(1), renamed);
-        x.doStep(1);
+        int play = x.plays() - 1;
+        Dues.due("renamedByStep of " + part, x.renamedByStep(play), 1);
+        x.doStep(play);
         String start = "mask y(mask z" + fresh + "([[y z" + fresh + "] ";
-        Dues.due("text of " + part, Dues.textOf(x, 1).substring(0, start.length()), start);
+        Dues.due("text of " + part, Dues.textOf(x, play).substring(0, start.length()), start);
     }
 
     private static void noRenaming() {
         // Nothing comes in below it.
-        dueStep("mask y([mask x([x mask y(y)]) y])", "mask y([y mask y(y)])", 0);
-        dueStep("mask y([mask x(mask y(y)) y])", "mask y(mask y(y))", 0);
+        Dues.dueStep("mask y([mask x([x mask y(y)]) y])", "mask y([y mask y(y)])", 0);
+        Dues.dueStep("mask y([mask x(mask y(y)) y])", "mask y(mask y(y))", 0);
         // The uses below it belong to another mask.
-        dueStep("mask y([mask x(mask y(mask x([x y]))) y])", "mask y(mask y(mask x([x y])))", 0);
-        dueStep("mask y([mask x([x mask x(mask y(x))]) y])", "mask y([y mask x(mask y(x))])", 0);
+        Dues.dueStep("mask y([mask x(mask y(mask x([x y]))) y])", "mask y(mask y(mask x([x y])))", 0);
+        Dues.dueStep("mask y([mask x([x mask x(mask y(x))]) y])", "mask y([y mask x(mask y(x))])", 0);
         // Its name is in the second part, but not open there.
-        dueStep("mask y([mask x(mask y([x y])) mask y(y)])", "mask y(mask y([mask y(y) y]))", 0);
-        dueStep("mask y(mask w([mask x(mask y([x y])) w]))", "mask y(mask w(mask y([w y])))", 0);
+        Dues.dueStep("mask y([mask x(mask y([x y])) mask y(y)])", "mask y(mask y([mask y(y) y]))", 0);
+        Dues.dueStep("mask y(mask w([mask x(mask y([x y])) w]))", "mask y(mask w(mask y([w y])))", 0);
         // What comes in below a mask outside of the scene belongs to this one as before.
-        dueStep("mask y([[mask x([x y]) y] y])", "mask y([[y y] y])", 0);
+        Dues.dueStep("mask y([[mask x([x y]) y] y])", "mask y([[y y] y])", 0);
     }
 
     private static void actorsWithNamesOfMasks() {
