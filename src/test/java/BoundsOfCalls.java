@@ -183,7 +183,26 @@ final class BoundsOfCalls {
         Dues.due("passEvenings", x.passEvenings(1), 0);
         Dues.due("teach nothing", x.teach(), 0);
         Dues.due("digest", x.digest(), new MaskPlays().digest());
+        oneBehindAnother();
         withAnError();
+    }
+
+    /** Each with notes that have long tests, with an error among them. */
+    private static void oneBehindAnother() {
+        MaskPlays x = new MaskPlays();
+        for (int n = 0; n < 12; n++) {
+            int even = n % 2;
+            String sum = "1" + "+1".repeat(60 + even);
+            String book = "actor a; play p is a; play q is [a a]; " + (even == 0 ? "" : "play r is mask x(x); ")
+                    + "give p to q when " + sum + "=" + (61 + even) + "; give q to p when " + sum + "=62;";
+            Dues.due("teach " + n, Dues.teach(x, book), 0);
+            Dues.due("plays", x.plays(), 2 + even);
+            Dues.due("meanSize", x.meanSize() == 2.0, true);
+            Dues.due("passEvenings", x.passEvenings(1), 1 + even);
+            Dues.due("sizeOf q", x.sizeOf(1), 5);
+            Dues.due("sizeOf p", x.sizeOf(0), even == 0 ? 1 : 7);
+            Dues.due("teach with an error", Dues.teach(x, book + " renew p when " + sum + "=r;"), 1);
+        }
     }
 
     private static final String[] WRONG = {"actor b; play q is b", "actor b; actor b;", "actor b; step b;",

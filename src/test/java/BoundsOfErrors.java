@@ -359,6 +359,18 @@ final class BoundsOfErrors {
         Dues.dueError(3, "play p is [[mask x(mask y(x)) mask y(y)] ^y];");
         Dues.dueError(3, "play p is mask x([mask x(x) x]); play q is ^x;");
         Dues.told("play p is mask x([mask x(x) x]);");
+        String eight = "play p is mask m1(mask m2(mask m3(mask m4(mask m5(mask m6(mask m7(mask m8(";
+        for (int n = 1; n <= 8; n++) {
+            Dues.told(eight + "m" + n + "))))))));");
+        }
+        Dues.dueError(3, eight + "^m0))))))));");
+        Dues.dueError(3, eight + "^m9))))))));");
+        // The masks of a tape with an error are none of the next one.
+        MaskPlays x = new MaskPlays();
+        Dues.due("teach", Dues.teach(x, "play p is mask x(mask y([x z]));"), 3);
+        Dues.due("teach", Dues.teach(x, "play p is mask z([z x]);"), 3);
+        Dues.due("errorAt", x.errorAt(), 20);
+        Dues.due("teach", Dues.teach(x, "play p is mask z(y);"), 3);
         Dues.dueError(3, "actor a; play p is mask a0(^aa);");
         unknownPlays();
     }

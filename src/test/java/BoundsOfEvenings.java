@@ -218,6 +218,15 @@ final class BoundsOfEvenings {
         Dues.dueText(w, 0, "[mask y([y y]) mask y([y y])]");
         Dues.due("isAsTold", w.isAsTold(0), true);
         Dues.due("passEvenings", w.passEvenings(1), 0);
+        // Only the name of a mask without uses, at the beginning of the text.
+        MaskPlays name = Dues.told("play p is mask x(mask w(w)); play q is mask y(mask w(w)); renew p when 1=1;");
+        name.give(1, 0);
+        name.doStep(0);
+        name.give(1, 0);
+        name.doStep(0);
+        Dues.dueText(name, 0, "mask y(mask w(w))");
+        Dues.due("passEvenings", name.passEvenings(2), 1);
+        Dues.dueText(name, 0, "mask x(mask w(w))");
         // A note that changes a play, and one that changes it back, are two.
         MaskPlays back = Dues.told("actor a; play p is [mask x(x) a]; step p; renew p when 1=1;");
         Dues.due("passEvenings", back.passEvenings(20), 40);

@@ -231,6 +231,8 @@ final class BoundsOfSteps {
         Dues.dueStep("mask y([mask x(mask y([x y mask y(y)])) y])", "mask y(mask z0([[y z0] mask y(y)]))", 1);
         // A name below it: of a mask, of a use of this or another one, of an actor, of the mask taken off.
         Dues.dueStep("mask y([mask x(mask y([x mask z0(a)])) y])", "mask y(mask z1([y mask z0(a)]))", 1);
+        Dues.dueStep("mask y([mask x(mask y(mask z0(x))) y])", "mask y(mask z1(mask z0(y)))", 1);
+        Dues.dueStep("mask y([mask z0(mask y(z0)) y])", "mask y(mask z1(y))", 1);
         Dues.dueStep("mask z0(mask y([mask x(mask y([x z0])) y]))", "mask z0(mask y(mask z1([y z0])))", 1);
         Dues.dueStep("actor z0; ", "mask y([mask x(mask y([x z0])) y])", "mask y(mask z1([y z0]))", 1);
         Dues.dueStep("mask y([mask z0(mask y([z0 y])) y])", "mask y(mask z1([y z1]))", 1);

@@ -139,11 +139,28 @@ final class BoundsOfTape {
         Dues.dueErrorAt(1, 0, "a".repeat(2000));
         Dues.dueErrorAt(1, 0, "1".repeat(2000));
         Dues.dueErrorAt(1, 2000, "step p when 1=" + " ".repeat(1985) + "1");
+        // Bytes that were cut off are read by nobody, also if they would go on with the last token.
+        dueCut("actor ab; ", 7);
+        dueCut("actor a; ", 7);
+        dueCut(WHEN + "1=12;", WHEN.length() + 3);
+        dueCut(WHEN + "1<=2;", WHEN.length() + 2);
+        dueCut("actor a;  !", 8);
+        dueCut("actor a;x", 8);
         MaskPlays x = new MaskPlays();
         Dues.feed(x, "actor a;" + " ".repeat(1984) + "actor b;");
         Dues.due("trim", x.trim(1999), 1999);
         Dues.due("teach without the last byte", x.teach(), 1);
         Dues.due("errorAt", x.errorAt(), 1999);
+    }
+
+    /** Without an error if what is kept is a playbook, and else with one at its end. */
+    private static void dueCut(String text, int kept) {
+        boolean whole = text.charAt(kept - 1) == ';';
+        MaskPlays x = new MaskPlays();
+        Dues.feed(x, text);
+        x.trim(kept);
+        Dues.due("teach the first " + kept + " of " + text, x.teach(), whole ? 0 : 1);
+        Dues.due("errorAt of the first " + kept + " of " + text, x.errorAt(), whole ? -1 : kept);
     }
 
     private static void emptyBehindTeach() {
@@ -439,6 +456,22 @@ final class BoundsOfTape {
         Dues.dueError(1, WHEN + "same p p ^p;");
         Dues.dueError(1, WHEN + "finished p ^p;");
         Dues.dueError(1, WHEN + "finished ^[1=1];");
+        comparisons();
+    }
+
+    /** Below, at and above what is compared with. */
+    private static void comparisons() {
+        String[] orders = {"<", ">", "=", "<=", ">="};
+        boolean[][] hold = {{true, false, false}, {false, false, true}, {false, true, false}, {true, true, false},
+            {false, true, true}};
+        for (int n = 0; n < orders.length; n++) {
+            for (int left = 0; left < 3; left++) {
+                String test = (left + 6) + orders[n] + "7";
+                Dues.due(test, Dues.holds("", test), hold[n][left]);
+                String below0 = "-" + (8 - left) + orders[n] + "-7";
+                Dues.due(below0, Dues.holds("", below0), hold[n][left]);
+            }
+        }
     }
 
     private static void theSums() {

@@ -320,8 +320,17 @@ final class BoundsOfWouldBe {
         MaskPlays x = Dues.told("actor a; play p is a; play q is mask x(a); play r is a;");
         x.give(0, 1);
         Dues.due("behind a gift", Double.doubleToLongBits(x.meanSize()), Double.doubleToLongBits(2.0));
-        x.teach();
-        Dues.due("without any again", Double.doubleToLongBits(x.meanSize()), Double.doubleToLongBits(0.0));
+        // Those of earlier playbooks are none of them.
+        for (int n = 0; n < 3; n++) {
+            Dues.due("teach twelve", Dues.teach(x, book.toString()), 0);
+            Dues.due("of twelve", Double.doubleToLongBits(x.meanSize()), Double.doubleToLongBits(all / 12));
+            Dues.due("teach one", Dues.teach(x, "actor a; play p is [a a];"), 0);
+            Dues.due("of one", Double.doubleToLongBits(x.meanSize()), Double.doubleToLongBits(3.0));
+            Dues.due("teach one", Dues.teach(x, "actor a; play p is a;"), 0);
+            Dues.due("of one", Double.doubleToLongBits(x.meanSize()), Double.doubleToLongBits(1.0));
+            x.teach();
+            Dues.due("without any again", Double.doubleToLongBits(x.meanSize()), Double.doubleToLongBits(0.0));
+        }
     }
 
     private static void dueMean(String book, double want) {
