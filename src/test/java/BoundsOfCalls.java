@@ -1,48 +1,45 @@
-/** The bounds of the calls, promise by promise: 1 to 28, up to what is done by hand. */
+/** The bounds of the calls, promise by promise: 1 to 11, the language and the playbook. */
 final class BoundsOfCalls {
-    private static final String NO_PLAY = "Throws `IndexOutOfBoundsException` if there is no such play";
     private static final String ID = "play i is mask x(x); ";
     private static final int BLANKS = 0x20202020;
-    /** 75 parts, and 74 parts: together with a scene they are 150. */
-    private static final String ODD = "[" + "a ".repeat(38) + "]";
-    private static final String EVEN = "mask u([" + "a ".repeat(37) + "])";
 
     private BoundsOfCalls() {
     }
 
-    /** A call that is asked of a play. */
-    interface Asked {
-        long answer(MaskPlays x, int play);
-    }
-
     static void run() {
-        aNewPlaybook();
-        feeding();
-        trimming();
-        teaching();
-        theError();
-        howManyThereAre();
-        howManyWentBy();
-        tapeBytes();
-        counting();
-        mostMasksAround();
-        standing();
-        stepsDone();
-        finished();
-        texts();
-        nextScenes();
-        renamings();
-        sameness();
-        stepsByHand();
-        givingByHand();
-        renewingByHand();
-        Sentences.end();
+        Sentences.of("Promise 1", "Creates a playbook without actors, plays and notes, ahead of the evening 0.",
+                BoundsOfCalls::aNewPlaybook);
+        Sentences.of("Promise 2", "Appends twenty bytes to the tape: the four bytes of each number, the highest one first.",
+                BoundsOfCalls::feeding);
+        Sentences.of("Promise 2", "- `a`: bytes 1 to 4", () -> bytesOf(0));
+        Sentences.of("Promise 2", "- `b`: bytes 5 to 8", () -> bytesOf(1));
+        Sentences.of("Promise 2", "- `c`: bytes 9 to 12", () -> bytesOf(2));
+        Sentences.of("Promise 2", "- `d`: bytes 13 to 16", () -> bytesOf(3));
+        Sentences.of("Promise 2", "- `e`: bytes 17 to 20", () -> bytesOf(4));
+        Sentences.of("Promise 2", "Returns the number of bytes of the tape.", BoundsOfCalls::whatFeedReturns);
+        Sentences.of("Promise 2", "Throws `IllegalStateException` if there would be more than 2000",
+                BoundsOfCalls::feedingTooMuch);
+        Sentences.of("Promise 3", "Shortens the tape to its first bytes.", BoundsOfCalls::trimming);
+        Sentences.of("Promise 3", "Returns n.", BoundsOfCalls::whatTrimReturns);
+        Sentences.of("Promise 3", "Throws `IllegalArgumentException` if n is not 0 to the number of bytes of the tape",
+                BoundsOfCalls::trimmingTooMuch);
+        Sentences.of("Promise 4", "Reads the tape as a playbook, in the place of all that was told before; all begins anew,"
+                + " evenings and steps, too.", BoundsOfCalls::teaching);
+        Sentences.of("Promise 4", "If it has an error, all stays (but the tape is empty).", BoundsOfCalls::withAnError);
+        Sentences.of("Promise 4", "Returns 0, or the error, 1 to 5.", BoundsOfCalls::errors);
+        Sentences.of("Promise 5", "Returns the position of the error of the latest teach(); -1 if it had none, or there was"
+                + " none.", BoundsOfCalls::positionsOfErrors);
+        Sentences.of("Promise 6", "Returns how many actors there are.", () -> howManyThereAre(0));
+        Sentences.of("Promise 7", "Returns how many plays there are.", () -> howManyThereAre(1));
+        Sentences.of("Promise 8", "Returns how many notes there are.", () -> howManyThereAre(2));
+        Sentences.of("Promise 9", "Returns how many evenings went by.", BoundsOfCalls::eveningsThatWentBy);
+        Sentences.of("Promise 10", "Returns how many notes were carried out in all.", BoundsOfCalls::notesCarriedOut);
+        Sentences.of("Promise 11", "Returns how many bytes the tape has.", BoundsOfCalls::tapeBytes);
     }
 
     // ---- the language
 
     private static void aNewPlaybook() {
-        Sentences.of("Promise 1", "Creates a playbook without actors, plays and notes, ahead of the evening 0.");
         MaskPlays x = new MaskPlays();
         Dues.due("actors", x.actors(), 0);
         Dues.due("plays", x.plays(), 0);
@@ -62,7 +59,6 @@ final class BoundsOfCalls {
     }
 
     private static void feeding() {
-        Sentences.of("Promise 2", "Appends twenty bytes to the tape: the four bytes of each number, the highest one first.");
         MaskPlays x = new MaskPlays();
         // "actor abcdefghij;pla", "y qrstuv1234 is mask", " z(z);  actor k;" and blanks
         x.feed(0x6163746f, 0x72206162, 0x63646566, 0x6768696a, 0x3b706c61);
@@ -71,18 +67,18 @@ final class BoundsOfCalls {
         Dues.due("teach", x.teach(), 0);
         Dues.due("actors", x.actors(), 2);
         Dues.dueText(x, 0, "mask z(z)");
-        String[] parameters = {"- `a`: bytes 1 to 4", "- `b`: bytes 5 to 8", "- `c`: bytes 9 to 12",
-            "- `d`: bytes 13 to 16", "- `e`: bytes 17 to 20"};
-        for (int n = 0; n < parameters.length; n++) {
-            Sentences.of("Promise 2", parameters[n]);
-            for (int place = 4 * n; place < 4 * n + 4; place++) {
-                dueByteAt(place, '!');
-                dueByteAt(place, 0);
-                dueByteAt(place, 128);
-                dueByteAt(place, 255);
-            }
+    }
+
+    private static void bytesOf(int number) {
+        for (int place = 4 * number; place < 4 * number + 4; place++) {
+            dueByteAt(place, '!');
+            dueByteAt(place, 0);
+            dueByteAt(place, 128);
+            dueByteAt(place, 255);
         }
-        Sentences.of("Promise 2", "Returns the number of bytes of the tape.");
+    }
+
+    private static void whatFeedReturns() {
         MaskPlays y = new MaskPlays();
         for (int n = 1; n <= 100; n++) {
             Dues.due("feed " + n, y.feed(BLANKS, BLANKS, BLANKS, BLANKS, BLANKS), 20 * n);
@@ -91,7 +87,6 @@ final class BoundsOfCalls {
         Dues.due("feed behind trim", y.feed(BLANKS, BLANKS, BLANKS, BLANKS, BLANKS), 23);
         y.teach();
         Dues.due("feed behind teach", y.feed(BLANKS, BLANKS, BLANKS, BLANKS, BLANKS), 20);
-        feedingTooMuch();
     }
 
     /** All bytes are blanks but this one, with which no token begins. */
@@ -110,7 +105,6 @@ final class BoundsOfCalls {
     }
 
     private static void feedingTooMuch() {
-        Sentences.of("Promise 2", "Throws `IllegalStateException` if there would be more than 2000");
         for (int bytes = 1979; bytes <= 2000; bytes++) {
             MaskPlays x = new MaskPlays();
             Dues.feed(x, " ".repeat(bytes));
@@ -126,7 +120,6 @@ final class BoundsOfCalls {
     }
 
     private static void trimming() {
-        Sentences.of("Promise 3", "Shortens the tape to its first bytes.");
         for (int kept : new int[] {0, 8, 17, 26}) {
             MaskPlays x = new MaskPlays();
             Dues.feed(x, "actor a; actor b; actor c;");
@@ -141,13 +134,17 @@ final class BoundsOfCalls {
         Dues.feed(cut, "d; play p is ad;");
         Dues.due("teach", cut.teach(), 0);
         Dues.dueText(cut, 0, "ad");
-        Sentences.of("Promise 3", "Returns n.");
+    }
+
+    private static void whatTrimReturns() {
         MaskPlays y = new MaskPlays();
         Dues.feed(y, " ".repeat(2000));
         for (int n : new int[] {2000, 1999, 20, 19, 1, 0, 0}) {
             Dues.due("trim", y.trim(n), n);
         }
-        Sentences.of("Promise 3", "Throws `IllegalArgumentException` if n is not 0 to the number of bytes of the tape");
+    }
+
+    private static void trimmingTooMuch() {
         for (int bytes : new int[] {0, 1, 20, 1999, 2000}) {
             MaskPlays x = new MaskPlays();
             Dues.feed(x, " ".repeat(bytes));
@@ -162,8 +159,6 @@ final class BoundsOfCalls {
     }
 
     private static void teaching() {
-        Sentences.of("Promise 4", "Reads the tape as a playbook, in the place of all that was told before; all begins anew,"
-                + " evenings and steps, too.");
         String book = "actor a; " + ID + "play p is [i a]; step p; renew p when evening=3;";
         MaskPlays x = Dues.told(book);
         long begun = x.digest();
@@ -184,7 +179,6 @@ final class BoundsOfCalls {
         Dues.due("teach nothing", x.teach(), 0);
         Dues.due("digest", x.digest(), new MaskPlays().digest());
         oneBehindAnother();
-        withAnError();
     }
 
     /** Each with notes that have long tests, with an error among them. */
@@ -209,7 +203,6 @@ final class BoundsOfCalls {
         "actor b; " + "step q; ".repeat(17), "actor b; play q is [" + "b ".repeat(76) + "];"};
 
     private static void withAnError() {
-        Sentences.of("Promise 4", "If it has an error, all stays (but the tape is empty).");
         MaskPlays x = Dues.told("actor a; " + ID + "play p is [i a]; step p; renew p when evening=1;");
         x.passEvenings(3);
         x.give(0, 1);
@@ -222,7 +215,9 @@ final class BoundsOfCalls {
             Dues.due("renew", x.renew(1), 4);
             Dues.due("passEvenings", x.passEvenings(1), 1);
         }
-        Sentences.of("Promise 4", "Returns 0, or the error, 1 to 5.");
+    }
+
+    private static void errors() {
         Dues.due("nothing", new MaskPlays().teach(), 0);
         Dues.due("an actor", Dues.teach(new MaskPlays(), "actor a;"), 0);
         int[] errors = {1, 2, 3, 3, 5};
@@ -233,9 +228,7 @@ final class BoundsOfCalls {
         Dues.due("16 notes", Dues.teach(new MaskPlays(), ID + "step i; ".repeat(16)), 0);
     }
 
-    private static void theError() {
-        Sentences.of("Promise 5", "Returns the position of the error of the latest teach(); -1 if it had none, or there was"
-                + " none.");
+    private static void positionsOfErrors() {
         MaskPlays x = new MaskPlays();
         Dues.due("errorAt ahead of all", x.errorAt(), -1);
         Dues.feed(x, "!");
@@ -263,34 +256,30 @@ final class BoundsOfCalls {
 
     // ---- the playbook
 
-    private static void howManyThereAre() {
-        String[] lines = {"actor a", "play p", "give p0 to p0 when evening="};
-        String[] ends = {"; ", " is mask x(x); ", "; "};
-        int[] most = {8, 12, 16};
-        for (int kind = 0; kind < 3; kind++) {
-            String name = new String[] {"actors", "plays", "notes"}[kind];
-            Sentences.of("Promise " + (6 + kind), "Returns how many " + name + " there are.");
-            StringBuilder book = new StringBuilder(kind == 2 ? "play p0 is mask x(x); " : "");
-            for (int n = 0; n <= most[kind]; n++) {
-                Dues.due(name, number(Dues.told(book.toString()), kind), n);
-                book.append(lines[kind]).append(n).append(ends[kind]);
-            }
-            MaskPlays x = Dues.told("actor a; play p is a;  step p;");
-            Dues.due("one too many", Dues.teach(x, book.toString()), 4);
-            Dues.due(name + " are as before", number(x, kind), 1);
-            x.passEvenings(1);
-            Dues.due(name + " behind an evening", number(x, kind), 1);
-            x.teach();
-            Dues.due(name + " of nothing", number(x, kind), 0);
+    /** Kind 0 are actors, 1 plays, 2 notes. */
+    private static void howManyThereAre(int kind) {
+        String line = new String[] {"actor a", "play p", "give p0 to p0 when evening="}[kind];
+        String end = new String[] {"; ", " is mask x(x); ", "; "}[kind];
+        int most = new int[] {8, 12, 16}[kind];
+        StringBuilder book = new StringBuilder(kind == 2 ? "play p0 is mask x(x); " : "");
+        for (int n = 0; n <= most; n++) {
+            Dues.due("of " + n, number(Dues.told(book.toString()), kind), n);
+            book.append(line).append(n).append(end);
         }
+        MaskPlays x = Dues.told("actor a; play p is a;  step p;");
+        Dues.due("one too many", Dues.teach(x, book.toString()), 4);
+        Dues.due("as many as before", number(x, kind), 1);
+        x.passEvenings(1);
+        Dues.due("behind an evening", number(x, kind), 1);
+        x.teach();
+        Dues.due("of nothing", number(x, kind), 0);
     }
 
     private static int number(MaskPlays x, int kind) {
         return kind == 0 ? x.actors() : kind == 1 ? x.plays() : x.notes();
     }
 
-    private static void howManyWentBy() {
-        Sentences.of("Promise 9", "Returns how many evenings went by.");
+    private static void eveningsThatWentBy() {
         MaskPlays x = Dues.told("actor a; " + ID + "play p is [i [i [i a]]]; step p; step p when evening=0;");
         Dues.due("evenings", x.evenings(), 0);
         x.sizeAfterEvenings(0, 20);
@@ -303,7 +292,9 @@ final class BoundsOfCalls {
         Dues.due("evenings", x.evenings(), 21);
         Dues.dueThrow("passEvenings", IllegalArgumentException.class, () -> x.passEvenings(21));
         Dues.due("evenings", x.evenings(), 21);
-        Sentences.of("Promise 10", "Returns how many notes were carried out in all.");
+    }
+
+    private static void notesCarriedOut() {
         MaskPlays y = Dues.told("actor a; " + ID + "play p is [i [i [i a]]]; step p; step p when evening=0;");
         Dues.due("notesCarriedOut", y.notesCarriedOut(), 0);
         y.sizeAfterEvenings(1, 20);
@@ -322,7 +313,6 @@ final class BoundsOfCalls {
     }
 
     private static void tapeBytes() {
-        Sentences.of("Promise 11", "Returns how many bytes the tape has.");
         MaskPlays x = new MaskPlays();
         Dues.due("tapeBytes", x.tapeBytes(), 0);
         for (int n = 1; n <= 100; n++) {
@@ -338,394 +328,5 @@ final class BoundsOfCalls {
         Dues.feed(x, "!");
         x.teach();
         Dues.due("tapeBytes behind teach", x.tapeBytes(), 0);
-    }
-
-    // ---- no such play
-
-    /** On the one side the first and the last play, on the other one what is next to them. */
-    static void dueNoSuchPlay(String promise, Asked asked) {
-        Sentences.of(promise, NO_PLAY);
-        MaskPlays x = new MaskPlays();
-        dueNone(x, asked);
-        Dues.teach(x, "actor a; actor b;");
-        dueNone(x, asked);
-        for (int plays : new int[] {1, 12, 2}) {
-            StringBuilder book = new StringBuilder("actor a; ");
-            for (int n = 0; n < plays; n++) {
-                book.append("play p").append(n).append(" is [mask x(x) a]; ");
-            }
-            Dues.due("teach", Dues.teach(x, book.toString()), 0);
-            dueNone(x, asked);
-            Dues.due("teach with an error", Dues.teach(x, book + "play q is mask a(a);") != 0, true);
-            dueNone(x, asked);
-            for (int play = 0; play < plays; play += Math.max(1, plays - 1)) {
-                int known = play;
-                String thrown = Dues.thrownBy(() -> asked.answer(x, known));
-                Dues.due(play + " of " + plays + " plays throws " + thrown, thrown.startsWith("nothing"), true);
-            }
-        }
-    }
-
-    private static void dueNone(MaskPlays x, Asked asked) {
-        long before = x.digest();
-        int plays = x.plays();
-        for (int play : new int[] {-1, plays, plays + 1, 12, 13, Integer.MIN_VALUE, Integer.MAX_VALUE}) {
-            if (play < 0 || play >= plays) {
-                Dues.dueThrow(play + " of " + plays + " plays", IndexOutOfBoundsException.class,
-                        () -> asked.answer(x, play));
-            }
-        }
-        Dues.due("digest", x.digest(), before);
-    }
-
-    // ---- what a play is
-
-    private static void counting() {
-        String[] parts = {"a", "mask x(x)", "[a a]", "[" + "a ".repeat(75) + "]", "mask x([" + "a ".repeat(75) + "])",
-            "mask x(mask y([x mask z([y z])]))", "[" + "mask x(x) ".repeat(50) + "]"};
-        int[][] want = {{1, 0, 0}, {2, 1, 0}, {3, 0, 1}, {149, 0, 74}, {150, 1, 74}, {8, 3, 2}, {149, 50, 49}};
-        String[] sentences = {"Returns how many parts it has.", "Returns how many masks it has.",
-            "Returns how many scenes it has."};
-        for (int kind = 0; kind < 3; kind++) {
-            Sentences.of("Promise " + (12 + kind), sentences[kind]);
-            for (int n = 0; n < parts.length; n++) {
-                MaskPlays x = Dues.told("actor a; play p is " + parts[n] + ";");
-                Dues.due(parts[n], counted(x, 0, kind), want[n][kind]);
-            }
-            // As it is now.
-            MaskPlays x = Dues.told("actor a; play p is [mask x([x x]) a];");
-            Dues.due("as it was told", counted(x, 0, kind), new int[] {6, 1, 2}[kind]);
-            x.doStep(0);
-            Dues.due("behind a step", counted(x, 0, kind), new int[] {3, 0, 1}[kind]);
-        }
-        dueNoSuchPlay("Promise 12", (x, play) -> x.sizeOf(play));
-        dueNoSuchPlay("Promise 13", (x, play) -> x.masksIn(play));
-        dueNoSuchPlay("Promise 14", (x, play) -> x.scenesIn(play));
-    }
-
-    private static int counted(MaskPlays x, int play, int kind) {
-        return kind == 0 ? x.sizeOf(play) : kind == 1 ? x.masksIn(play) : x.scenesIn(play);
-    }
-
-    private static void mostMasksAround() {
-        Sentences.of("Promise 15", "Returns how many masks there are around the name with the most of them.");
-        dueMost("a", 0);
-        dueMost("[a a]", 0);
-        dueMost("mask x(a)", 1);
-        dueMost("[a mask x(a)]", 1);
-        dueMost("[mask x(a) a]", 1);
-        dueMost("[mask x(x) mask y(mask z(a)) mask x(x)]", 2);
-        dueMost("[mask x(x) mask y(y) mask x(x)]", 1);
-        dueMost("mask x([mask y(y) [mask y(mask z(x)) x]])", 3);
-        dueMost("mask x(".repeat(8) + "x" + ")".repeat(8), 8);
-        Dues.due("as many as a step can bring", theDeepest().mostMasksAround(1 - DEEPEST), 139);
-        Dues.due("as many as a step can bring", theDeepest().mostMasksAround(DEEPEST), 146);
-        dueNoSuchPlay("Promise 15", (x, play) -> x.mostMasksAround(play));
-    }
-
-    private static void dueMost(String part, int most) {
-        Dues.due(part, Dues.told("actor a; play p is " + part + ";").mostMasksAround(0), most);
-    }
-
-    private static final int DEEPEST = 0;
-
-    /** By each step seven masks more come around a name: 146 at last, when the scene has 150 parts ahead of it. */
-    private static MaskPlays theDeepest() {
-        String seven = "mask x(" + "mask yyyyyyyyyy(".repeat(7) + "x" + ")".repeat(8);
-        MaskPlays x = Dues.told("actor zzzzzzzzzz; play k is " + seven + "; play m is k; play p is "
-                + "mask yyyyyyyyyy(".repeat(6) + "zzzzzzzzzz" + ")".repeat(6) + ";");
-        int deepest = 2;
-        for (int n = 1; n <= 20; n++) {
-            int next = n % 2;
-            x.renew(next);
-            x.give(deepest, next);
-            x.doStep(next);
-            deepest = next;
-        }
-        return x;
-    }
-
-    private static void standing() {
-        Sentences.of("Promise 16", "Returns how often this one stands in it.");
-        MaskPlays x = Dues.told("play l is mask a(mask b([a b])); actor a; actor b; actor c; play p is [l a];"
-                + " play q is [" + "a ".repeat(75) + "]; play r is mask x([a [b mask y([a x])]]); play s is c;");
-        long[][] want = {{0, 0, 0}, {1, 0, 0}, {75, 0, 0}, {2, 1, 0}, {0, 0, 1}};
-        for (int play = 0; play < want.length; play++) {
-            for (int actor = 0; actor < 3; actor++) {
-                Dues.due("standsIn(" + play + ", " + actor + ")", x.standsIn(play, actor), want[play][actor]);
-            }
-        }
-        x.give(1, 4);
-        Dues.due("standsIn(4, 0)", x.standsIn(4, 0), 1);
-        Sentences.of("Promise 16", "Throws `IndexOutOfBoundsException` if there is no such play or actor");
-        Dues.due("the last actor", x.standsIn(4, 2), 1);
-        Dues.due("the first actor", x.standsIn(1, 0), 1);
-        for (int actor : new int[] {-1, 3, 8, Integer.MIN_VALUE, Integer.MAX_VALUE}) {
-            Dues.dueThrow("actor " + actor, IndexOutOfBoundsException.class, () -> x.standsIn(0, actor));
-            Dues.dueThrow("no play, and actor " + actor, IndexOutOfBoundsException.class, () -> x.standsIn(5, actor));
-        }
-        for (int play : new int[] {-1, 5, 12, Integer.MIN_VALUE, Integer.MAX_VALUE}) {
-            Dues.dueThrow("play " + play, IndexOutOfBoundsException.class, () -> x.standsIn(play, 0));
-        }
-        MaskPlays most = Dues.told("actor a; actor b; actor c; actor d; actor e; actor f; actor g; actor h; play p is h;");
-        Dues.due("the 8th actor", most.standsIn(0, 7), 1);
-        Dues.dueThrow("the 9th actor", IndexOutOfBoundsException.class, () -> most.standsIn(0, 8));
-        MaskPlays none = Dues.told("play p is mask x(x);");
-        Dues.dueThrow("without actors", IndexOutOfBoundsException.class, () -> none.standsIn(0, 0));
-    }
-
-    private static void stepsDone() {
-        Sentences.of("Promise 17", "Returns how many steps of it were done in all.");
-        MaskPlays x = Dues.told("actor a; " + ID + "play p is [i [i [i a]]]; play q is p; step p when evening=1;");
-        Dues.due("stepsDone", x.stepsDone(1), 0);
-        x.doStep(1);
-        Dues.due("stepsDone", x.stepsDone(1), 1);
-        x.passEvenings(3);
-        Dues.due("stepsDone", x.stepsDone(1), 2);
-        x.renew(1);
-        x.give(0, 1);
-        Dues.due("stepsDone", x.stepsDone(1), 2);
-        x.doStep(1);
-        x.stepsToFinish(1);
-        x.sizeAfterSteps(1, 40);
-        x.renamedByStep(1);
-        Dues.due("stepsDone", x.stepsDone(1), 3);
-        Dues.due("stepsDone of another one", x.stepsDone(2), 0);
-        Dues.dueThrow("a step that cannot be done", IllegalStateException.class, () -> x.doStep(0));
-        Dues.due("stepsDone", x.stepsDone(0), 0);
-        dueNoSuchPlay("Promise 17", (y, play) -> y.stepsDone(play));
-    }
-
-    private static void finished() {
-        Sentences.of("Promise 18", "Returns whether it is finished.");
-        MaskPlays x = Dues.told("actor a; " + ID + "play p is [i a]; play q is [a i]; play r is [mask x([x x]) " + ODD + "];"
-                + " play s is [mask x(x) " + ODD + "]; play t is [mask x(mask w([x x])) " + EVEN + "];");
-        boolean[] finished = {true, false, true, false, false, false};
-        for (int play = 0; play < finished.length; play++) {
-            Dues.due("isFinished " + play, x.isFinished(play), finished[play]);
-        }
-        Sentences.of("Promise 19", "Returns whether a step of it can be done.");
-        boolean[] can = {false, true, false, false, true, true};
-        for (int play = 0; play < can.length; play++) {
-            Dues.due("canStep " + play, x.canStep(play), can[play]);
-        }
-        x.doStep(1);
-        Dues.due("canStep behind the last step", x.canStep(1), false);
-        Sentences.of("Promise 18", "Returns whether it is finished.");
-        Dues.due("isFinished behind the last step", x.isFinished(1), true);
-        dueNoSuchPlay("Promise 18", (y, play) -> y.isFinished(play) ? 1 : 0);
-        dueNoSuchPlay("Promise 19", (y, play) -> y.canStep(play) ? 1 : 0);
-    }
-
-    private static void texts() {
-        Sentences.of("Promise 20", "Returns how many letters and signs its text has, blanks as well.");
-        MaskPlays x = Dues.told("actor a; actor abcdefghij; play p is a; play q is abcdefghij; play r is mask x(x);"
-                + " play s is [a a]; play t is [" + "a ".repeat(75) + "]; play u is mask abcdefghi0(mask x([x a]));");
-        int[] lengths = {1, 10, 9, 5, 75 + 3 * 74, 17 + 8 + 5};
-        for (int play = 0; play < lengths.length; play++) {
-            Dues.due("textLength " + play, x.textLength(play), lengths[play]);
-        }
-        MaskPlays deepest = theDeepest();
-        Dues.due("the longest one", deepest.textLength(DEEPEST), 146 * 17 + 10);
-        Sentences.of("Promise 21", "- `place`: a place of its text, from 0");
-        Dues.due("letterAt 0", x.letterAt(3, 0), '[');
-        Dues.due("letterAt 1", x.letterAt(3, 1), 'a');
-        Dues.due("letterAt 4", x.letterAt(3, 4), ']');
-        Sentences.of("Promise 21", "Returns the letter or sign there, as its byte.");
-        String[] texts = {"a", "abcdefghij", "mask x(x)", "[a a]", "[".repeat(74) + "a" + " a]".repeat(74),
-            "mask abcdefghi0(mask x([x a]))"};
-        for (int play = 0; play < texts.length; play++) {
-            Dues.dueText(x, play, texts[play]);
-        }
-        Dues.dueText(deepest, DEEPEST, "mask yyyyyyyyyy(".repeat(146) + "zzzzzzzzzz" + ")".repeat(146));
-        Sentences.of("Promise 21", "Throws `IndexOutOfBoundsException` if there is no such play or place");
-        for (int play = 0; play < texts.length; play++) {
-            dueNoPlace(x, play, lengths[play], texts[play]);
-        }
-        dueNoPlace(deepest, DEEPEST, 2492, Dues.textOf(deepest, DEEPEST));
-        for (int play : new int[] {-1, 6, 12, Integer.MIN_VALUE, Integer.MAX_VALUE}) {
-            Dues.dueThrow("letterAt of play " + play, IndexOutOfBoundsException.class, () -> x.letterAt(play, 0));
-        }
-        dueNoSuchPlay("Promise 20", (y, play) -> y.textLength(play));
-    }
-
-    private static void dueNoPlace(MaskPlays x, int play, int length, String text) {
-        Dues.due("the first place", x.letterAt(play, 0), text.charAt(0));
-        Dues.due("the last place", x.letterAt(play, length - 1), text.charAt(length - 1));
-        for (int place : new int[] {-1, length, length + 1, 2550, 2551, Integer.MIN_VALUE, Integer.MAX_VALUE}) {
-            Dues.dueThrow("place " + place, IndexOutOfBoundsException.class, () -> x.letterAt(play, place));
-        }
-    }
-
-    private static void nextScenes() {
-        Sentences.of("Promise 22", "Returns the place of its text at which its next scene begins.");
-        StringBuilder book = new StringBuilder("actor a; play k0 is [mask x(x) a]; play q is [a [a k0]]; play r is [k0 k0]; ");
-        for (int n = 1; n <= 8; n++) {
-            book.append("play k").append(n).append(" is ").append("mask y(".repeat(8)).append('k').append(n - 1)
-                    .append(")))))))); ");
-        }
-        MaskPlays x = Dues.told(book.toString());
-        Dues.due("at its beginning", x.nextSceneAt(0), 0);
-        Dues.due("behind two names", x.nextSceneAt(1), 6);
-        Dues.due("the first of two", x.nextSceneAt(2), 1);
-        for (int n = 1; n <= 8; n++) {
-            Dues.due("within masks", x.nextSceneAt(2 + n), 8 * 7 * n);
-        }
-        x.doStep(2);
-        Dues.due("behind a step", x.nextSceneAt(2), 3);
-        MaskPlays late = Dues.told("actor a; play p is [" + "a ".repeat(72) + "[mask x(x) a]];");
-        Dues.due("the last scene", late.nextSceneAt(0), 72 + 1 + 3 * 71 + 1);
-        dueNoSuchPlay("Promise 22", (y, play) -> y.nextSceneAt(play));
-        Sentences.of("Promise 22", "Throws `IllegalStateException` if it is finished");
-        MaskPlays y = Dues.told("actor a; play p is [mask x(x) a]; play q is [a mask x(x)]; play r is mask x(x);"
-                + " play s is [mask x([x x]) " + ODD + "];");
-        Dues.due("not finished", y.nextSceneAt(0), 0);
-        y.doStep(0);
-        for (int play = 0; play < 3; play++) {
-            int finished = play;
-            Dues.dueThrow("finished", IllegalStateException.class, () -> y.nextSceneAt(finished));
-        }
-        Dues.due("not finished, though a step cannot be done", y.nextSceneAt(3), 0);
-    }
-
-    private static void renamings() {
-        Sentences.of("Promise 23", "Returns how many masks would be renamed by the next step of it (nothing is changed).");
-        String seven = "mask y(".repeat(6) + "x" + ")".repeat(6);
-        MaskPlays x = Dues.told("play p is mask x(" + seven + "); play q is mask x([" + seven + " " + seven + "]); "
-                + "play r is mask x(mask y(y)); actor y; actor a; play s is [p y]; play t is [q y]; play u is [r y];"
-                + " play v is [p a]; play w is [p [y y]];");
-        int[] renamed = {6, 12, 0, 0, 6};
-        for (int n = 0; n < renamed.length; n++) {
-            long before = x.digest();
-            Dues.due("renamedByStep " + n, x.renamedByStep(3 + n), renamed[n]);
-            Dues.due("renamedByStep again", x.renamedByStep(3 + n), renamed[n]);
-            Dues.due("digest", x.digest(), before);
-        }
-        x.doStep(3);
-        Dues.dueText(x, 3, "mask z0(".repeat(6) + "y" + ")".repeat(6));
-        dueNoSuchPlay("Promise 23", (y, play) -> y.renamedByStep(play));
-        Sentences.of("Promise 23", "Throws `IllegalStateException` if it cannot be done");
-        MaskPlays y = tooLarge();
-        Dues.due("to 150 parts", y.renamedByStep(0), 0);
-        Dues.dueThrow("to 151 parts", IllegalStateException.class, () -> y.renamedByStep(1));
-        Dues.dueThrow("finished", IllegalStateException.class, () -> y.renamedByStep(2));
-    }
-
-    /** Plays that would have 150 and 151 parts behind a step, and one that is finished. */
-    private static MaskPlays tooLarge() {
-        return Dues.told("actor a; play p is [mask x(mask w([x x])) " + EVEN + "]; play q is [mask x(mask v(mask w([x x])))"
-                + EVEN + "]; play r is [a mask x(x)];");
-    }
-
-    private static void sameness() {
-        Sentences.of("Promise 24", "Returns whether both are the same now.");
-        MaskPlays x = Dues.told("actor a; " + ID + "play p is [i a]; play q is a; play r is [mask y(y) a];");
-        Dues.due("isSame", x.isSame(1, 3), true);
-        Dues.due("isSame", x.isSame(1, 2), false);
-        x.doStep(1);
-        Dues.due("isSame now", x.isSame(1, 2), true);
-        Dues.due("isSame now", x.isSame(1, 3), false);
-        Dues.due("isSame now", x.isSame(3, 1), false);
-        Dues.due("itself", x.isSame(1, 1), true);
-        Sentences.of("Promise 25", "Returns whether it is the same as it was told.");
-        Dues.due("isAsTold", x.isAsTold(0), true);
-        Dues.due("behind a step", x.isAsTold(1), false);
-        x.give(0, 2);
-        Dues.due("behind a gift", x.isAsTold(2), false);
-        x.renew(1);
-        Dues.due("behind renewing", x.isAsTold(1), true);
-        MaskPlays y = Dues.told("play p is [mask x([x x]) mask y([y y])]; play q is mask x(x); play r is mask y(y);");
-        y.doStep(0);
-        Dues.due("with other names of masks", y.isAsTold(0), true);
-        y.give(2, 1);
-        y.doStep(1);
-        Dues.dueText(y, 1, "mask y(y)");
-        Dues.due("with another name of its mask", y.isAsTold(1), true);
-        dueNoSuchPlay("Promise 24", (z, play) -> z.isSame(play, 0) ? 1 : 0);
-        dueNoSuchPlay("Promise 24", (z, play) -> z.isSame(0, play) ? 1 : 0);
-        dueNoSuchPlay("Promise 25", (z, play) -> z.isAsTold(play) ? 1 : 0);
-    }
-
-    // ---- by hand
-
-    private static void stepsByHand() {
-        Sentences.of("Promise 26", "Does a step of a play.");
-        MaskPlays x = Dues.told("actor a; " + ID + "play p is [i [i a]]; play q is p;");
-        x.doStep(1);
-        Dues.dueText(x, 1, "[mask x(x) a]");
-        Dues.dueText(x, 2, "[mask x(x) [mask x(x) a]]");
-        Dues.due("stepsDone", x.stepsDone(1) * 10 + x.stepsDone(2), 10);
-        Dues.due("notesCarriedOut", x.notesCarriedOut(), 0);
-        Sentences.of("Promise 26", "Returns how many parts it has then.");
-        Dues.due("doStep", x.doStep(1), 1);
-        Dues.due("doStep", x.doStep(2), 4);
-        MaskPlays y = tooLarge();
-        Dues.due("doStep", y.doStep(0), 150);
-        dueNoSuchPlay("Promise 26", (z, play) -> z.doStep(play));
-        Sentences.of("Promise 26", "Throws `IllegalStateException` if it cannot be done");
-        Dues.dueThrow("behind the last step", IllegalStateException.class, () -> x.doStep(1));
-        Dues.dueThrow("to 151 parts", IllegalStateException.class, () -> y.doStep(1));
-        Dues.dueThrow("finished", IllegalStateException.class, () -> y.doStep(2));
-        Dues.due("stepsDone", y.stepsDone(0) * 100 + y.stepsDone(1) * 10 + y.stepsDone(2), 100);
-        Dues.due("sizeOf", y.sizeOf(1), 81);
-        Dues.due("doStep of the large one", y.doStep(0), 74);
-    }
-
-    private static void givingByHand() {
-        Sentences.of("Promise 27", "Gives a play to another one, or to itself: this becomes the scene of itself and the first"
-                + " one, as both are.");
-        MaskPlays x = Dues.told("actor a; actor b; play p is [mask x(x) a]; play q is b;");
-        x.doStep(0);
-        x.give(0, 1);
-        Dues.dueText(x, 0, "a");
-        Dues.dueText(x, 1, "[b a]");
-        x.give(1, 1);
-        Dues.dueText(x, 1, "[[b a] [b a]]");
-        x.give(1, 0);
-        Dues.dueText(x, 0, "[a [[b a] [b a]]]");
-        Sentences.of("Promise 27", "Returns how many parts this has then.");
-        String told = "actor a; play p is " + ODD + "; play q is " + EVEN + "; play r is a; play s is [" + "a ".repeat(75)
-                + "]; play t is mask x([" + "a ".repeat(74) + "]); play u is mask x(s);";
-        int[][] fits = {{2, 2, 3}, {0, 1, 150}, {1, 0, 150}, {1, 1, 149}, {2, 4, 150}, {4, 2, 150}, {0, 2, 77}, {2, 5, 0},
-            {5, 2, 0}, {0, 0, 0}, {2, 3, 0}, {3, 2, 0}, {4, 4, 0}, {3, 3, 0}, {5, 5, 0}};
-        for (int[] gift : fits) {
-            if (gift[2] > 0) {
-                Dues.due("give " + gift[0] + " to " + gift[1], Dues.told(told).give(gift[0], gift[1]), gift[2]);
-            }
-        }
-        dueNoSuchPlay("Promise 27", (y, play) -> y.give(play, 0));
-        dueNoSuchPlay("Promise 27", (y, play) -> y.give(0, play));
-        Sentences.of("Promise 27", "Throws `IllegalStateException` if it would have more than 150 parts");
-        for (int[] gift : fits) {
-            MaskPlays y = Dues.told(told);
-            long before = y.digest();
-            if (gift[2] == 0) {
-                Dues.dueThrow("give " + gift[0] + " to " + gift[1], IllegalStateException.class,
-                        () -> y.give(gift[0], gift[1]));
-                Dues.due("digest", y.digest(), before);
-            }
-        }
-    }
-
-    private static void renewingByHand() {
-        Sentences.of("Promise 28", "Makes a play as it was told.");
-        MaskPlays x = Dues.told("actor a; play p is [mask x([x x]) a]; play q is [p a];");
-        x.doStep(0);
-        x.doStep(1);
-        x.renew(0);
-        Dues.dueText(x, 0, "[mask x([x x]) a]");
-        Dues.dueText(x, 1, "[[a a] a]");
-        Dues.due("stepsDone", x.stepsDone(0), 1);
-        x.give(0, 0);
-        x.renew(0);
-        Dues.dueText(x, 0, "[mask x([x x]) a]");
-        Sentences.of("Promise 28", "Returns how many parts it has then.");
-        Dues.due("renew", x.renew(1), 8);
-        Dues.due("renew what is as told", x.renew(1), 8);
-        MaskPlays y = Dues.told("actor a; play p is a; play q is mask x([" + "a ".repeat(75) + "]);");
-        y.give(0, 0);
-        Dues.due("renew", y.renew(0), 1);
-        Dues.due("renew", y.renew(1), 150);
-        dueNoSuchPlay("Promise 28", (z, play) -> z.renew(play));
     }
 }

@@ -14,26 +14,36 @@ final class BoundsOfErrors {
     }
 
     static void run() {
-        whereItIsDeeper();
-        atMost8();
-        error1();
-        error1Includes();
-        theFirstByte();
-        onlyIfThereIsNoError1();
-        error2();
-        error3();
-        error4();
-        error5();
-        numbersOfTold();
-        notKnownInItsOwnPart();
-        Sentences.end();
+        Sentences.of(LANGUAGE, "Depth. It is 0 at the beginning, and 1 greater between a ( and its ), a [ and its ],"
+                + " behind a - in front (of a value) for what it turns, and behind a not for what it turns.",
+                BoundsOfErrors::whereItIsDeeper);
+        Sentences.of(LANGUAGE, "It may be at most 8.", BoundsOfErrors::atMost8);
+        Sentences.of(LANGUAGE, "Errors. Error 1: the first token with which the tokens so far are not the beginning of"
+                + " a playbook.", BoundsOfErrors::error1);
+        Sentences.of(LANGUAGE, "This includes a byte with which no token begins, a word or number that is too long, the"
+                + " end of the tape (at its length), the (, [, - or not behind which the depth would be 9, and the token"
+                + " that would be the 401st (the end of the tape not counted).", BoundsOfErrors::error1Includes);
+        Sentences.of(LANGUAGE, "The position is that of its first byte.", BoundsOfErrors::theFirstByte);
+        Sentences.of(LANGUAGE, "Only if there is no error 1, keywords, names and numbers are looked at from left to"
+                + " right, and the first error is told, at its token; of errors at one token the one with the smallest"
+                + " number.", BoundsOfErrors::onlyIfThereIsNoError1);
+        Sentences.of(LANGUAGE, "Error 2: the name behind actor, play (at the beginning of a line) or mask is that of an"
+                + " actor or a play told ahead.", BoundsOfErrors::error2);
+        Sentences.of(LANGUAGE, "Error 3: another name is none of what it has to be: in a part, the name of a mask around"
+                + " it, or of an actor or a play told ahead; elsewhere, that of a play told ahead.",
+                BoundsOfErrors::error3);
+        Sentences.of(LANGUAGE, "Error 4: the name of the 9th actor or of the 13th play, or the step, give or renew of the"
+                + " 17th note (of all three together).", BoundsOfErrors::error4);
+        Sentences.of(LANGUAGE, "Error 5: the ; behind a play that has more than 150 parts.", BoundsOfErrors::error5);
+        Sentences.of(LANGUAGE, "Actors, plays and notes (lines with step, give or renew) are numbered from 0 in the order"
+                + " in which they are told.", BoundsOfErrors::numbersOfTold);
+        Sentences.of(LANGUAGE, "A play is told with its line; so its name is not known in its own part.",
+                BoundsOfErrors::notKnownInItsOwnPart);
     }
 
     // ---- depth
 
     private static void whereItIsDeeper() {
-        Sentences.of(LANGUAGE, "Depth. It is 0 at the beginning, and 1 greater between a ( and its ), a [ and its ],"
-                + " behind a - in front (of a value) for what it turns, and behind a not for what it turns.");
         for (String[] outer : OF_PARTS) {
             for (String[] inner : OF_PARTS) {
                 dueOneDeeper(ACTOR + "play p is ", outer, inner, "a", ";");
@@ -113,7 +123,6 @@ final class BoundsOfErrors {
     }
 
     private static void atMost8() {
-        Sentences.of(LANGUAGE, "It may be at most 8.");
         for (String[] kind : OF_PARTS) {
             dueAtMost8(ACTOR + "play p is ", kind, "a", ";");
         }
@@ -139,8 +148,6 @@ final class BoundsOfErrors {
     // ---- error 1
 
     private static void error1() {
-        Sentences.of(LANGUAGE, "Errors. Error 1: the first token with which the tokens so far are not the beginning of"
-                + " a playbook.");
         Dues.told("actor a; play p is a;");
         Dues.dueError(1, "actor a; play p is a ^actor b;");
         Dues.dueError(1, "actor a; play ^1 p a;");
@@ -153,9 +160,6 @@ final class BoundsOfErrors {
     }
 
     private static void error1Includes() {
-        Sentences.of(LANGUAGE, "This includes a byte with which no token begins, a word or number that is too long, the"
-                + " end of the tape (at its length), the (, [, - or not behind which the depth would be 9, and the token"
-                + " that would be the 401st (the end of the tape not counted).");
         bytesOfNoToken();
         tooLong();
         theEndOfTheTape();
@@ -264,7 +268,6 @@ final class BoundsOfErrors {
     }
 
     private static void theFirstByte() {
-        Sentences.of(LANGUAGE, "The position is that of its first byte.");
         Dues.dueError(1, "actor   ^when  ;");
         Dues.dueError(1, "actor \n ^abcdefghijk ;");
         Dues.dueError(1, WHEN + "1 \n ^1234567 ;");
@@ -275,9 +278,6 @@ final class BoundsOfErrors {
     // ---- errors 2 to 5
 
     private static void onlyIfThereIsNoError1() {
-        Sentences.of(LANGUAGE, "Only if there is no error 1, keywords, names and numbers are looked at from left to"
-                + " right, and the first error is told, at its token; of errors at one token the one with the smallest"
-                + " number.");
         Dues.dueError(2, "actor a; actor ^a; actor b;");
         Dues.dueError(1, "actor a; actor a; actor b^");
         Dues.dueError(3, "step ^p; actor a;");
@@ -330,8 +330,6 @@ final class BoundsOfErrors {
     }
 
     private static void error2() {
-        Sentences.of(LANGUAGE, "Error 2: the name behind actor, play (at the beginning of a line) or mask is that of an"
-                + " actor or a play told ahead.");
         Dues.dueError(2, "actor a; actor ^a;");
         Dues.dueError(2, PLAY + "actor ^p;");
         Dues.dueError(2, "actor a; play ^a is a;");
@@ -349,8 +347,6 @@ final class BoundsOfErrors {
     }
 
     private static void error3() {
-        Sentences.of(LANGUAGE, "Error 3: another name is none of what it has to be: in a part, the name of a mask around"
-                + " it, or of an actor or a play told ahead; elsewhere, that of a play told ahead.");
         Dues.told("actor a; play p is mask x([x mask y([x y a])]); play q is [a p];");
         Dues.dueError(3, "play p is ^a; actor a;");
         Dues.dueError(3, "play p is ^q; play q is mask x(x);");
@@ -391,8 +387,6 @@ final class BoundsOfErrors {
     }
 
     private static void error4() {
-        Sentences.of(LANGUAGE, "Error 4: the name of the 9th actor or of the 13th play, or the step, give or renew of the"
-                + " 17th note (of all three together).");
         String actors = lines("actor a", ";", 8);
         Dues.due("actors", Dues.told(actors).actors(), 8);
         Dues.dueError(4, actors + "actor ^b;");
@@ -414,7 +408,6 @@ final class BoundsOfErrors {
     }
 
     private static void error5() {
-        Sentences.of(LANGUAGE, "Error 5: the ; behind a play that has more than 150 parts.");
         String names = "a ".repeat(75);
         Dues.due("sizeOf", Dues.told(ACTOR + "play p is mask x([" + names + "]);").sizeOf(0), 150);
         Dues.dueError(5, ACTOR + "play p is [" + names + "a]^;");
@@ -437,8 +430,6 @@ final class BoundsOfErrors {
     // ---- what is told
 
     private static void numbersOfTold() {
-        Sentences.of(LANGUAGE, "Actors, plays and notes (lines with step, give or renew) are numbered from 0 in the order"
-                + " in which they are told.");
         MaskPlays x = Dues.told("actor b; play q is b; actor a; play p is [a a]; renew p when 1=2; actor c;"
                 + " give q to q when 1=2; play c0 is [[a b] [c c] c]; step q;");
         Dues.due("actors", x.actors(), 3);
@@ -457,7 +448,6 @@ final class BoundsOfErrors {
     }
 
     private static void notKnownInItsOwnPart() {
-        Sentences.of(LANGUAGE, "A play is told with its line; so its name is not known in its own part.");
         Dues.dueError(3, "play p is ^p;");
         Dues.dueError(3, "actor a; play p is [a ^p];");
         Dues.dueError(3, "play p is mask x(^p);");

@@ -11,34 +11,42 @@ final class BoundsOfEvenings {
     }
 
     static void run() {
-        wholeNumbers();
-        wrappingAround();
-        cutTowards0();
-        notesInTheirOrder();
-        steps();
-        gifts();
-        renewals();
-        carriedOut();
-        theNumberOfEvenings();
-        valuesInSums();
-        finishedAndSame();
-        bothAndEither();
-        throwingChangesNothing();
-        theOneNamedFirst();
-        Sentences.end();
+        Sentences.of(TERMS, "All numbers are whole;", BoundsOfEvenings::wholeNumbers);
+        Sentences.of(TERMS, "sums, differences and products of the language wrap around in 32 bits;",
+                BoundsOfEvenings::wrappingAround);
+        Sentences.of(TERMS, "/ is cut towards 0,", BoundsOfEvenings::cutTowards0);
+        Sentences.of(TERMS, "gives 0 with 0 on the right side,", BoundsOfEvenings::zeroOnTheRight);
+        Sentences.of(TERMS, "and -2147483648 / -1 gives -2147483648.", BoundsOfEvenings::theLeastOverMinus1);
+        Sentences.of(PLAYS, "An evening goes like this: notes, in the order in which they are told, if the test holds as"
+                + " it comes to its turn (or there is none).", BoundsOfEvenings::notesInTheirOrder);
+        Sentences.of(PLAYS, "step: a step of the play, if it can be done.", BoundsOfEvenings::steps);
+        Sentences.of(PLAYS, "give: the play behind to becomes the scene of itself and the play behind give, as both are,"
+                + " if it has no more than 150 parts then.", BoundsOfEvenings::gifts);
+        Sentences.of(PLAYS, "renew: the play becomes as it was told.", BoundsOfEvenings::renewals);
+        Sentences.of(PLAYS, "Each one by which a play has another text is carried out.", BoundsOfEvenings::carriedOut);
+        Sentences.of(PLAYS, "Then the number of evenings is 1 greater.", BoundsOfEvenings::theNumberOfEvenings);
+        Sentences.of(PLAYS, "In tests and sums evening is the number of evenings, size that of a play, masks how many"
+                + " masks it has, steps how many steps of it were done in all (by notes and by hand, also ahead of"
+                + " renewing it);", BoundsOfEvenings::valuesInSums);
+        Sentences.of(PLAYS, "finished holds for a play that is finished, same for two plays that are the same.",
+                BoundsOfEvenings::finishedAndSame);
+        Sentences.of(PLAYS, "Both sides of and and or are reckoned; and binds more than or, not more than and.",
+                BoundsOfEvenings::bothAndEither);
+        Sentences.of(PLAYS, "A method that throws an exception changes nothing.",
+                BoundsOfEvenings::throwingChangesNothing);
+        Sentences.of(PLAYS, "If several exceptions apply, the one that is named first is thrown.",
+                BoundsOfEvenings::theOneNamedFirst);
     }
 
     // ---- terms
 
     private static void wholeNumbers() {
-        Sentences.of(TERMS, "All numbers are whole;");
         Dues.dueHolds("1/2+1/2=0");
         Dues.dueHolds("3/2*2=2");
         Dues.dueHolds("999999/(1000*1000)*1000=0");
     }
 
     private static void wrappingAround() {
-        Sentences.of(TERMS, "sums, differences and products of the language wrap around in 32 bits;");
         Dues.dueHolds(MOST + ">0 and " + LEAST + "<0 and " + LEAST + "<" + MOST);
         Dues.dueHolds(MOST + "-1+1=" + MOST);
         Dues.dueHolds(MOST + "+1=" + LEAST);
@@ -65,14 +73,15 @@ final class BoundsOfEvenings {
     }
 
     private static void cutTowards0() {
-        Sentences.of(TERMS, "/ is cut towards 0,");
         String[] sums = {"1/2=0", "2/2=1", "3/2=1", "-1/2=0", "-2/2=-1", "-3/2=-1", "1/-2=0", "3/-2=-1", "-3/-2=1",
             "7/2=3", "-7/2=-3", "7/-2=-3", "-7/-2=3", "99/100=0", "-99/100=0", "100/100=1", "-100/100=-1",
             LEAST + "/2=-65536*16384", MOST + "/2=65536*16384-1", MOST + "/" + LEAST + "=0", LEAST + "/" + MOST + "=-1"};
         for (String sum : sums) {
             Dues.dueHolds(sum);
         }
-        Sentences.of(TERMS, "gives 0 with 0 on the right side,");
+    }
+
+    private static void zeroOnTheRight() {
         for (String left : new String[] {"0", "1", "-1", "999999", MOST, LEAST}) {
             Dues.dueHolds(left + "/0=0");
             Dues.dueHolds(left + "/(1-1)=0");
@@ -80,7 +89,9 @@ final class BoundsOfEvenings {
             Dues.dueHolds(left + "/-1=-" + left);
         }
         Dues.dueHolds("0/5=0 and 5/evening=0");
-        Sentences.of(TERMS, "and -2147483648 / -1 gives -2147483648.");
+    }
+
+    private static void theLeastOverMinus1() {
         Dues.dueHolds(LEAST + "/-1=" + LEAST);
         Dues.dueHolds(LEAST + "/-1<0");
         Dues.dueHolds("(" + LEAST + "+1)/-1=" + MOST);
@@ -92,8 +103,6 @@ final class BoundsOfEvenings {
     // ---- evenings
 
     private static void notesInTheirOrder() {
-        Sentences.of(PLAYS, "An evening goes like this: notes, in the order in which they are told, if the test holds as"
-                + " it comes to its turn (or there is none).");
         MaskPlays x = Dues.told("actor a; play p is a; play q is [a a]; give q to p when 1=1; give p to q when 1=1;");
         Dues.due("passEvenings", x.passEvenings(1), 2);
         Dues.dueText(x, 0, "[a [a a]]");
@@ -118,7 +127,6 @@ final class BoundsOfEvenings {
     }
 
     private static void steps() {
-        Sentences.of(PLAYS, "step: a step of the play, if it can be done.");
         String even = "mask u([" + "a ".repeat(37) + "])";
         MaskPlays x = Dues.told("actor a; play p is [mask x(mask w([x x])) " + even + "];"
                 + " play q is [mask x(mask v(mask w([x x]))) " + even + "]; play r is a; step p; step q; step r;");
@@ -140,8 +148,6 @@ final class BoundsOfEvenings {
     }
 
     private static void gifts() {
-        Sentences.of(PLAYS, "give: the play behind to becomes the scene of itself and the play behind give, as both are,"
-                + " if it has no more than 150 parts then.");
         MaskPlays x = Dues.told("actor a; actor b; play p is a; play q is b; give p to q when 1=1;");
         Dues.due("passEvenings", x.passEvenings(1), 1);
         Dues.dueText(x, 0, "a");
@@ -181,7 +187,6 @@ final class BoundsOfEvenings {
     }
 
     private static void renewals() {
-        Sentences.of(PLAYS, "renew: the play becomes as it was told.");
         MaskPlays x = Dues.told("actor a; " + ID + "play p is [i a]; play q is [i a]; step p; step q; renew p when 1=1;");
         Dues.due("passEvenings", x.passEvenings(1), 3);
         Dues.dueText(x, 1, "[mask x(x) a]");
@@ -196,7 +201,6 @@ final class BoundsOfEvenings {
     }
 
     private static void carriedOut() {
-        Sentences.of(PLAYS, "Each one by which a play has another text is carried out.");
         // Renewing what has its text already, stepping to the same text, and what cannot be done, are not.
         MaskPlays x = Dues.told("actor a; play p is a; renew p when 1=1; step p; give p to p when 1=2;");
         Dues.due("passEvenings", x.passEvenings(20), 0);
@@ -233,7 +237,6 @@ final class BoundsOfEvenings {
     }
 
     private static void theNumberOfEvenings() {
-        Sentences.of(PLAYS, "Then the number of evenings is 1 greater.");
         MaskPlays x = Dues.told("actor a; play p is a; give p to p when evening=0; give p to p when evening=0;"
                 + " give p to p when evening=1;");
         Dues.due("in the first one it is 0", x.passEvenings(1), 2);
@@ -248,9 +251,6 @@ final class BoundsOfEvenings {
     }
 
     private static void valuesInSums() {
-        Sentences.of(PLAYS, "In tests and sums evening is the number of evenings, size that of a play, masks how many"
-                + " masks it has, steps how many steps of it were done in all (by notes and by hand, also ahead of"
-                + " renewing it);");
         String told = "play p is [mask x(mask y([y x])) a]; play r is mask x(x); ";
         String[] hold = {"evening=0", "size p=7", "masks p=2", "steps p=0", "size r=2", "masks r=1", "size g=1",
             "masks g=0", "size p+masks p*10+steps p=27"};
@@ -272,7 +272,6 @@ final class BoundsOfEvenings {
     }
 
     private static void finishedAndSame() {
-        Sentences.of(PLAYS, "finished holds for a play that is finished, same for two plays that are the same.");
         String told = "play p is mask x(mask y([y x])); play q is mask y(mask x([x y])); play r is mask y(mask x([y x]));"
                 + " play s is [p a]; play t is [a p]; play u is [p a]; ";
         String[] hold = {"finished p", "finished t", "not finished s", "same p q", "same q p", "same p p", "not same p r",
@@ -289,7 +288,6 @@ final class BoundsOfEvenings {
     }
 
     private static void bothAndEither() {
-        Sentences.of(PLAYS, "Both sides of and and or are reckoned; and binds more than or, not more than and.");
         String[] single = {"1=2", "1=1"};
         for (int a = 0; a < 2; a++) {
             for (int b = 0; b < 2; b++) {
@@ -315,7 +313,6 @@ final class BoundsOfEvenings {
     // ---- exceptions
 
     private static void throwingChangesNothing() {
-        Sentences.of(PLAYS, "A method that throws an exception changes nothing.");
         String even = "mask u([" + "a ".repeat(38) + "])";
         MaskPlays x = Dues.told("actor a; " + ID + "play p is [mask x([x x x]) " + even + "]; play q is [i a]; " + SELF
                 + "step q; renew q when evening=2; give i to i when evening=1;");
@@ -339,7 +336,6 @@ final class BoundsOfEvenings {
     }
 
     private static void theOneNamedFirst() {
-        Sentences.of(PLAYS, "If several exceptions apply, the one that is named first is thrown.");
         MaskPlays x = Dues.told("actor a; play p is [" + "a ".repeat(75) + "]; play q is a;");
         for (int none : new int[] {-1, 2, Integer.MIN_VALUE, Integer.MAX_VALUE}) {
             for (int wrong : new int[] {-1, 41, Integer.MIN_VALUE, Integer.MAX_VALUE}) {

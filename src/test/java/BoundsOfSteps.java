@@ -7,25 +7,41 @@ final class BoundsOfSteps {
     }
 
     static void run() {
-        partsAndScenes();
-        asTold();
-        sizes();
-        belonging();
-        openNames();
-        readyScenes();
-        theNextScene();
-        theMaskTakenOff();
-        allOtherPartsStay();
-        whenItIsRenamed();
-        theNewName();
-        manyNames();
-        fartherOutFirst();
-        noUseBelow();
-        finishedPlays();
-        stepsThatCannotBeDone();
-        texts();
-        same();
-        Sentences.end();
+        Sentences.of(PLAYS, "Parts. A part is an actor, a use of a mask (both are names), a mask with one part below it,"
+                + " or a scene of two parts: the first one is given the second one.", BoundsOfSteps::partsAndScenes);
+        Sentences.of(PLAYS, "[ a b c ] is the scene of the scene of a and b, and of c; and so on.",
+                BoundsOfSteps::scenesOfMore);
+        Sentences.of(PLAYS, "The name of a play told ahead stands for its part as it was told.", BoundsOfSteps::asTold);
+        Sentences.of(PLAYS, "The size of a part is how many parts it has: each name, mask and scene counts 1.",
+                BoundsOfSteps::sizes);
+        Sentences.of(PLAYS, "A use belongs to the innermost mask with its name of those around it.",
+                BoundsOfSteps::belonging);
+        Sentences.of(PLAYS, "The open names of a part are those of its names that belong to no mask in this part (so"
+                + " actors, and uses that belong to masks around it).", BoundsOfSteps::openNames);
+        Sentences.of(PLAYS, "Step. A scene is ready, if its first part is a mask.", BoundsOfSteps::readyScenes);
+        Sentences.of(PLAYS, "The next scene of a play is, of the ready ones, that of which the text begins first.",
+                BoundsOfSteps::theNextScene);
+        Sentences.of(PLAYS, "By a step the mask of this scene is taken off: the scene is replaced by the part below the"
+                + " mask, in which the second part stands in the place of each use that belongs to it.",
+                BoundsOfSteps::theMaskTakenOff);
+        Sentences.of(PLAYS, "All other parts stay.", BoundsOfSteps::allOtherPartsStay);
+        Sentences.of(PLAYS, "Renaming. As the second part comes in below a mask, this one is renamed first, if its name"
+                + " is an open name of the second part:", BoundsOfSteps::whenItIsRenamed);
+        Sentences.of(PLAYS, "it, and the uses that belong to it, get as their name the first one of z0, z1, z2 and so on"
+                + " that is no name of anything in the part below it (of a mask or otherwise), nor an open name of the"
+                + " second part.", BoundsOfSteps::theNewName);
+        Sentences.of(PLAYS, "z0, z1, z2 and so on", BoundsOfSteps::manyNames);
+        Sentences.of(PLAYS, "Masks farther out are renamed ahead of those farther in.", BoundsOfSteps::fartherOutFirst);
+        Sentences.of(PLAYS, "A mask is not renamed, if there is no use below it in the place of which the second part"
+                + " comes.", BoundsOfSteps::noUseBelow);
+        Sentences.of(PLAYS, "A play is finished, if it has no ready scene.", BoundsOfSteps::finishedPlays);
+        Sentences.of(PLAYS, "A step cannot be done, if the play is finished, or would have more than 150 parts behind it.",
+                BoundsOfSteps::stepsThatCannotBeDone);
+        Sentences.of(PLAYS, "Text. That of a name is the name; that of a mask is mask, a blank, its name, (, the text of"
+                + " the part below it, and ); that of a scene is [, the text of its first part, a blank, the text of the"
+                + " second one, and ]", BoundsOfSteps::texts);
+        Sentences.of(PLAYS, "Same. Two parts are the same, if their texts are so when masks of the one may have other"
+                + " names than those of the other one (and uses likewise, each as its mask).", BoundsOfSteps::same);
     }
 
     private static void dueText(String part, String want) {
@@ -36,14 +52,14 @@ final class BoundsOfSteps {
     // ---- parts
 
     private static void partsAndScenes() {
-        Sentences.of(PLAYS, "Parts. A part is an actor, a use of a mask (both are names), a mask with one part below it,"
-                + " or a scene of two parts: the first one is given the second one.");
         dueCounts("a", 1, 0, 0);
         dueCounts("mask x(x)", 2, 1, 0);
         dueCounts("[a b]", 3, 0, 1);
         dueCounts("mask x([x a])", 4, 1, 1);
         Dues.dueStep("[mask x([x a]) b]", "[b a]", 0);
-        Sentences.of(PLAYS, "[ a b c ] is the scene of the scene of a and b, and of c; and so on.");
+    }
+
+    private static void scenesOfMore() {
         dueText("[a b]", "[a b]");
         dueText("[a b a]", "[[a b] a]");
         dueText("[a b a b]", "[[[a b] a] b]");
@@ -61,7 +77,6 @@ final class BoundsOfSteps {
     }
 
     private static void asTold() {
-        Sentences.of(PLAYS, "The name of a play told ahead stands for its part as it was told.");
         MaskPlays x = Dues.told("actor a; play p is [mask x(x) a]; play q is p; play r is mask x([p x q]);");
         Dues.dueText(x, 1, "[mask x(x) a]");
         Dues.dueText(x, 2, "mask x([[[mask x(x) a] x] [mask x(x) a]])");
@@ -77,7 +92,6 @@ final class BoundsOfSteps {
     }
 
     private static void sizes() {
-        Sentences.of(PLAYS, "The size of a part is how many parts it has: each name, mask and scene counts 1.");
         dueCounts("a", 1, 0, 0);
         dueCounts("mask x(a)", 2, 1, 0);
         dueCounts("mask x(mask x(x))", 3, 2, 0);
@@ -87,7 +101,6 @@ final class BoundsOfSteps {
     }
 
     private static void belonging() {
-        Sentences.of(PLAYS, "A use belongs to the innermost mask with its name of those around it.");
         Dues.dueStep("[mask x([x mask x(x)]) a]", "[a mask x(x)]", 0);
         Dues.dueStep("[mask x(mask x(mask y(x))) a]", "mask x(mask y(x))", 0);
         Dues.dueStep("[mask x(mask y(mask z(x))) a]", "mask y(mask z(a))", 0);
@@ -107,8 +120,6 @@ final class BoundsOfSteps {
     }
 
     private static void openNames() {
-        Sentences.of(PLAYS, "The open names of a part are those of its names that belong to no mask in this part (so"
-                + " actors, and uses that belong to masks around it).");
         // By its renaming one sees that y is an open name of the second part.
         String ready = "mask y([mask x(mask y([x y])) ";
         Dues.dueStep(ready + "y])", "mask y(mask z0([y z0]))", 1);
@@ -128,7 +139,6 @@ final class BoundsOfSteps {
     // ---- steps
 
     private static void readyScenes() {
-        Sentences.of(PLAYS, "Step. A scene is ready, if its first part is a mask.");
         dueFinished("a", true);
         dueFinished("mask x(x)", true);
         dueFinished("[a b]", true);
@@ -152,7 +162,6 @@ final class BoundsOfSteps {
     }
 
     private static void theNextScene() {
-        Sentences.of(PLAYS, "The next scene of a play is, of the ready ones, that of which the text begins first.");
         dueNext("[mask x(x) [mask y(y) a]]", 0, "[mask y(y) a]");
         dueNext("[mask x([mask y(y) x]) a]", 0, "[mask y(y) a]");
         dueNext("[[mask x(x) a] [mask y(y) b]]", 1, "[a [mask y(y) b]]");
@@ -173,8 +182,6 @@ final class BoundsOfSteps {
     }
 
     private static void theMaskTakenOff() {
-        Sentences.of(PLAYS, "By a step the mask of this scene is taken off: the scene is replaced by the part below the"
-                + " mask, in which the second part stands in the place of each use that belongs to it.");
         Dues.dueStep("[mask x(b) a]", "b", 0);
         Dues.dueStep("[mask x(x) a]", "a", 0);
         Dues.dueStep("[mask x([x x]) a]", "[a a]", 0);
@@ -189,7 +196,6 @@ final class BoundsOfSteps {
     }
 
     private static void allOtherPartsStay() {
-        Sentences.of(PLAYS, "All other parts stay.");
         Dues.dueStep("[b [mask x([x x]) a]]", "[b [a a]]", 0);
         Dues.dueStep("[[mask x([x x]) a] b]", "[[a a] b]", 0);
         Dues.dueStep("mask x([x [[mask x([x x]) a] x]])", "mask x([x [[a a] x]])", 0);
@@ -204,8 +210,6 @@ final class BoundsOfSteps {
     // ---- renaming
 
     private static void whenItIsRenamed() {
-        Sentences.of(PLAYS, "Renaming. As the second part comes in below a mask, this one is renamed first, if its name"
-                + " is an open name of the second part:");
         Dues.dueStep("mask y([mask x(mask y(x)) y])", "mask y(mask z0(y))", 1);
         Dues.dueStep("mask y([mask x(mask w(x)) y])", "mask y(mask w(y))", 0);
         Dues.dueStep("mask y([mask x(mask y(x)) a])", "mask y(mask y(a))", 0);
@@ -223,9 +227,6 @@ final class BoundsOfSteps {
     }
 
     private static void theNewName() {
-        Sentences.of(PLAYS, "it, and the uses that belong to it, get as their name the first one of z0, z1, z2 and so on"
-                + " that is no name of anything in the part below it (of a mask or otherwise), nor an open name of the"
-                + " second part.");
         Dues.dueStep("mask y([mask x(mask y([x [y [y y]]])) y])", "mask y(mask z0([y [z0 [z0 z0]]]))", 1);
         // Uses of another mask with the same name, farther in, stay.
         Dues.dueStep("mask y([mask x(mask y([x y mask y(y)])) y])", "mask y(mask z0([[y z0] mask y(y)]))", 1);
@@ -270,7 +271,6 @@ final class BoundsOfSteps {
     }
 
     private static void manyNames() {
-        Sentences.of(PLAYS, "z0, z1, z2 and so on");
         // Nine plays with eight masks each rule out z0 to z71, or all of these but one.
         StringBuilder plays = new StringBuilder("actor a; play k0 is a; ");
         for (int n = 1; n <= 9; n++) {
@@ -295,7 +295,6 @@ final class BoundsOfSteps {
     }
 
     private static void fartherOutFirst() {
-        Sentences.of(PLAYS, "Masks farther out are renamed ahead of those farther in.");
         // Below the inner one the outer one's new name stands, so it gets the next one.
         Dues.dueStep("mask y(mask w([mask x(mask y(mask w([x y]))) [y w]]))", "mask y(mask w(mask z0(mask z1([[y w] z0]))))", 2);
         Dues.dueStep("mask y(mask w([mask x(mask y(mask w([x [w y]]))) [y w]]))",
@@ -315,8 +314,6 @@ final class BoundsOfSteps {
     }
 
     private static void noUseBelow() {
-        Sentences.of(PLAYS, "A mask is not renamed, if there is no use below it in the place of which the second part"
-                + " comes.");
         Dues.dueStep("mask y([mask x(mask y(x)) y])", "mask y(mask z0(y))", 1);
         Dues.dueStep("mask y([mask x(mask y(y)) y])", "mask y(mask y(y))", 0);
         Dues.dueStep("mask y([mask x([x mask y(y)]) y])", "mask y([y mask y(y)])", 0);
@@ -331,7 +328,6 @@ final class BoundsOfSteps {
     // ---- finished plays, and steps that cannot be done
 
     private static void finishedPlays() {
-        Sentences.of(PLAYS, "A play is finished, if it has no ready scene.");
         dueFinished("a", true);
         dueFinished("[a mask x([x a])]", true);
         dueFinished("[a mask x([mask y(y) a])]", false);
@@ -341,6 +337,10 @@ final class BoundsOfSteps {
         // The ready scene may be the last one that there can be.
         dueFinished("[" + "a ".repeat(73) + " [mask x(a) a]]", false);
         dueFinished("[" + "a ".repeat(73) + " [a mask x(a)]]", true);
+        // A ready scene of which the step cannot be done is one, too.
+        MaskPlays large = Dues.told(ACTORS + "play p is [mask x([x x]) [" + "a ".repeat(38) + "]];");
+        Dues.due("canStep", large.canStep(0), false);
+        Dues.due("isFinished", large.isFinished(0), false);
         MaskPlays x = Dues.told(ACTORS + "play p is [mask x(x) mask x(x) a];");
         x.doStep(0);
         Dues.due("behind one step", x.isFinished(0), false);
@@ -349,7 +349,6 @@ final class BoundsOfSteps {
     }
 
     private static void stepsThatCannotBeDone() {
-        Sentences.of(PLAYS, "A step cannot be done, if the play is finished, or would have more than 150 parts behind it.");
         String even = "mask u([" + "a ".repeat(37) + "])";
         String odd = "[" + "a ".repeat(38) + "]";
         dueSizeBehindStep("[mask x([x x]) " + even + "]", 149);
@@ -397,9 +396,6 @@ final class BoundsOfSteps {
     // ---- texts, and what is the same
 
     private static void texts() {
-        Sentences.of(PLAYS, "Text. That of a name is the name; that of a mask is mask, a blank, its name, (, the text of"
-                + " the part below it, and ); that of a scene is [, the text of its first part, a blank, the text of the"
-                + " second one, and ]");
         dueText("a", "a");
         dueText("mask x(x)", "mask x(x)");
         dueText("mask  x \n( x ) ", "mask x(x)");
@@ -415,8 +411,6 @@ final class BoundsOfSteps {
     }
 
     private static void same() {
-        Sentences.of(PLAYS, "Same. Two parts are the same, if their texts are so when masks of the one may have other"
-                + " names than those of the other one (and uses likewise, each as its mask).");
         dueSame("a", "a", true);
         dueSame("a", "b", false);
         dueSame("[a b]", "[a b]", true);

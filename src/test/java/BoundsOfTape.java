@@ -14,31 +14,45 @@ final class BoundsOfTape {
     }
 
     static void run() {
-        callsOfAnObject();
-        positions();
-        theTape();
-        blanksBetweenTokens();
-        blanksThatHaveToStand();
-        theLongestToken();
-        words();
-        numbers();
-        symbols();
-        keywords();
-        marksOfTheGrammar();
-        thePlaybook();
-        theLines();
-        theParts();
-        theTests();
-        theSums();
-        Sentences.end();
+        // What a 513th call answers is free: on that side nothing can be due.
+        Sentences.of("What it is", "An object is used for at most 512 calls after it has been made; what later calls"
+                + " answer is free.", BoundsOfTape::callsOfAnObject);
+        Sentences.of("Terms", "Positions of the tape are counted from 0, in bytes.", BoundsOfTape::positions);
+        Sentences.of(LANGUAGE, "The tape is a row of at most 2000 bytes, at first empty, which feed and trim fill;"
+                + " teach reads it as a playbook, and it is empty behind it.", BoundsOfTape::theTape);
+        Sentences.of(LANGUAGE, "It is a row of tokens. Blanks (32) and line ends (10) can stand between tokens, at the"
+                + " beginning and at the end,", BoundsOfTape::blanksBetweenTokens);
+        Sentences.of(LANGUAGE, "and have to stand between two tokens that would otherwise be read as one.",
+                BoundsOfTape::blanksThatHaveToStand);
+        Sentences.of(LANGUAGE, "The longest possible token is always read.", BoundsOfTape::theLongestToken);
+        Sentences.of(LANGUAGE, "A word: a letter a to z, followed by letters a to z and digits, at most 10 bytes.",
+                BoundsOfTape::words);
+        Sentences.of(LANGUAGE, "A number: 1 to 6 digits.", BoundsOfTape::numbers);
+        Sentences.of(LANGUAGE, "Symbols: ( ) [ ] ; , + - * / < > = <= >=", BoundsOfTape::symbols);
+        Sentences.of(LANGUAGE, "The keywords are: actor play is mask step give to renew when evening size masks steps"
+                + " finished same not and or min max. All other words are names.", BoundsOfTape::keywords);
+        Sentences.of(LANGUAGE, "Grammar. [ x ] outside of quotation marks means x or nothing, { x } x any number of"
+                + " times, also none, and | separates alternatives; keywords and symbols of the language are in"
+                + " quotation marks.", BoundsOfTape::marksOfTheGrammar);
+        Sentences.of(LANGUAGE, "playbook = { line \";\" }", BoundsOfTape::thePlaybook);
+        Sentences.of(LANGUAGE, "line = \"actor\" name | \"play\" name \"is\" part | \"step\" name [ \"when\" test ] |"
+                + " \"give\" name \"to\" name \"when\" test | \"renew\" name \"when\" test", BoundsOfTape::theLines);
+        Sentences.of(LANGUAGE, "part = name | \"mask\" name \"(\" part \")\" | \"[\" part part { part } \"]\"",
+                BoundsOfTape::theParts);
+        Sentences.of(LANGUAGE, "test = both { \"or\" both }", BoundsOfTape::theTests);
+        Sentences.of(LANGUAGE, "both = single { \"and\" single }", BoundsOfTape::theBoths);
+        Sentences.of(LANGUAGE, "single = \"not\" single | \"[\" test \"]\" | \"finished\" name | \"same\" name name |"
+                + " sum ( \"<\" | \">\" | \"=\" | \"<=\" | \">=\" ) sum", BoundsOfTape::theSingles);
+        Sentences.of(LANGUAGE, "sum = product { ( \"+\" | \"-\" ) product }", BoundsOfTape::theSums);
+        Sentences.of(LANGUAGE, "product = value { ( \"*\" | \"/\" ) value }", BoundsOfTape::theProducts);
+        Sentences.of(LANGUAGE, "value = number | \"evening\" | ( \"size\" | \"masks\" | \"steps\" ) name |"
+                + " \"-\" value | \"(\" sum \")\" | ( \"min\" | \"max\" ) \"(\" sum \",\" sum \")\"",
+                BoundsOfTape::theValues);
     }
 
     // ---- what it is, and terms
 
     private static void callsOfAnObject() {
-        // What a 513th call answers is free: on that side nothing can be due.
-        Sentences.of("What it is", "An object is used for at most 512 calls after it has been made; what later calls"
-                + " answer is free.");
         manyEvenings();
         manySteps();
         manyBooks();
@@ -102,7 +116,6 @@ final class BoundsOfTape {
     }
 
     private static void positions() {
-        Sentences.of("Terms", "Positions of the tape are counted from 0, in bytes.");
         Dues.dueErrorAt(1, 0, ";");
         Dues.dueErrorAt(1, 1, " ;");
         Dues.dueErrorAt(1, 0, "\u00ff\u00ff");
@@ -115,8 +128,6 @@ final class BoundsOfTape {
     // ---- the tape
 
     private static void theTape() {
-        Sentences.of(LANGUAGE, "The tape is a row of at most 2000 bytes, at first empty, which feed and trim fill;"
-                + " teach reads it as a playbook, and it is empty behind it.");
         MaskPlays x = new MaskPlays();
         Dues.due("tapeBytes at first", x.tapeBytes(), 0);
         Dues.due("teach at first", x.teach(), 0);
@@ -178,8 +189,6 @@ final class BoundsOfTape {
     // ---- tokens
 
     private static void blanksBetweenTokens() {
-        Sentences.of(LANGUAGE, "It is a row of tokens. Blanks (32) and line ends (10) can stand between tokens, at the"
-                + " beginning and at the end,");
         for (String blank : new String[] {" ", "\n", "  ", "\n\n", " \n", "\n \n "}) {
             String book = String.join(blank, "", "actor", "a", ";", "play", "p", "is", "mask", "x", "(", "x", ")", ";",
                     "step", "p", "when", "1", "<=", "-", "2", ";", "");
@@ -206,7 +215,6 @@ final class BoundsOfTape {
     }
 
     private static void blanksThatHaveToStand() {
-        Sentences.of(LANGUAGE, "and have to stand between two tokens that would otherwise be read as one.");
         Dues.told("actor a;");
         Dues.dueError(1, "^actora;");
         Dues.told("actor a1;");
@@ -226,7 +234,6 @@ final class BoundsOfTape {
     }
 
     private static void theLongestToken() {
-        Sentences.of(LANGUAGE, "The longest possible token is always read.");
         Dues.dueHolds("1<=1");
         Dues.dueHolds("1>=1");
         Dues.dueError(1, WHEN + "1<=^=1;");
@@ -246,7 +253,6 @@ final class BoundsOfTape {
     }
 
     private static void words() {
-        Sentences.of(LANGUAGE, "A word: a letter a to z, followed by letters a to z and digits, at most 10 bytes.");
         for (int sign = 0; sign < 256; sign++) {
             char as = (char) sign;
             if (sign >= 'a' && sign <= 'z') {
@@ -278,7 +284,6 @@ final class BoundsOfTape {
     }
 
     private static void numbers() {
-        Sentences.of(LANGUAGE, "A number: 1 to 6 digits.");
         for (int digit = 0; digit <= 9; digit++) {
             Dues.dueHolds(digit + "-" + digit + "=0");
             Dues.dueHolds("10+" + digit + "=1" + digit);
@@ -295,7 +300,6 @@ final class BoundsOfTape {
     }
 
     private static void symbols() {
-        Sentences.of(LANGUAGE, "Symbols: ( ) [ ] ; , + - * / < > = <= >=");
         Dues.told("actor a; play p is [a mask x(x)]; step p when [1+1-1*1/1<1 or 1>1 or 1=1 or 1<=1 or 1>=1]"
                 + " and min(1,(1))=1;");
         for (int sign = 0; sign < 256; sign++) {
@@ -311,8 +315,6 @@ final class BoundsOfTape {
     }
 
     private static void keywords() {
-        Sentences.of(LANGUAGE, "The keywords are: actor play is mask step give to renew when evening size masks steps"
-                + " finished same not and or min max. All other words are names.");
         for (String keyword : KEYWORDS) {
             Dues.dueErrorAt(1, 6, "actor " + keyword + ";");
             Dues.dueErrorAt(1, 5, "play " + keyword + " is mask x(x);");
@@ -331,9 +333,6 @@ final class BoundsOfTape {
     // ---- lines
 
     private static void marksOfTheGrammar() {
-        Sentences.of(LANGUAGE, "Grammar. [ x ] outside of quotation marks means x or nothing, { x } x any number of"
-                + " times, also none, and | separates alternatives; keywords and symbols of the language are in"
-                + " quotation marks.");
         Dues.told("");
         Dues.told("actor a;");
         Dues.told("actor a; actor b;");
@@ -354,7 +353,6 @@ final class BoundsOfTape {
     }
 
     private static void thePlaybook() {
-        Sentences.of(LANGUAGE, "playbook = { line \";\" }");
         Dues.dueError(1, "actor a^");
         Dues.dueError(1, "actor a ^actor b;");
         Dues.dueError(1, "^;");
@@ -363,8 +361,6 @@ final class BoundsOfTape {
     }
 
     private static void theLines() {
-        Sentences.of(LANGUAGE, "line = \"actor\" name | \"play\" name \"is\" part | \"step\" name [ \"when\" test ] |"
-                + " \"give\" name \"to\" name \"when\" test | \"renew\" name \"when\" test");
         dueEachToken("actor a ;");
         dueEachToken("play p is mask x ( x ) ;");
         dueEachToken("give p to p when 1 = 1 ;");
@@ -401,7 +397,6 @@ final class BoundsOfTape {
     }
 
     private static void theParts() {
-        Sentences.of(LANGUAGE, "part = name | \"mask\" name \"(\" part \")\" | \"[\" part part { part } \"]\"");
         dueEachToken("play p is q ;");
         dueEachToken("play p is mask x ( mask y ( x ) ) ;");
         dueEachToken("play p is [ q q ] ;");
@@ -424,22 +419,24 @@ final class BoundsOfTape {
     }
 
     private static void theTests() {
-        Sentences.of(LANGUAGE, "test = both { \"or\" both }");
         dueEachToken("step q when 1 = 1 or 2 < 2 or 3 > 3 ;");
         Dues.dueError(1, WHEN + "^;");
         Dues.dueError(1, WHEN + "^or 1=1;");
         Dues.dueError(1, WHEN + "1=1 or^;");
         Dues.dueError(1, WHEN + "1=1 or ^or 1=1;");
         Dues.dueError(1, WHEN + "1 ^or 1=1;");
-        Sentences.of(LANGUAGE, "both = single { \"and\" single }");
+    }
+
+    private static void theBoths() {
         dueEachToken("step q when 1 = 1 and 2 < 2 and 3 > 3 ;");
         dueEachToken("step q when 1 = 1 and 2 < 2 or 3 > 3 and 4 = 4 ;");
         Dues.dueError(1, WHEN + "^and 1=1;");
         Dues.dueError(1, WHEN + "1=1 and^;");
         Dues.dueError(1, WHEN + "1=1 and ^or 1=1;");
         Dues.dueError(1, WHEN + "1=1 or ^and 1=1;");
-        Sentences.of(LANGUAGE, "single = \"not\" single | \"[\" test \"]\" | \"finished\" name | \"same\" name name |"
-                + " sum ( \"<\" | \">\" | \"=\" | \"<=\" | \">=\" ) sum");
+    }
+
+    private static void theSingles() {
         dueEachToken("step q when not [ not finished q ] ;");
         dueEachToken("step q when finished q or same q q and same q q ;");
         dueEachToken("step q when [ 1 <= 1 or [ 2 >= 2 ] ] ;");
@@ -475,21 +472,23 @@ final class BoundsOfTape {
     }
 
     private static void theSums() {
-        Sentences.of(LANGUAGE, "sum = product { ( \"+\" | \"-\" ) product }");
         dueEachToken("step q when 1 + 2 - 3 = 1 - 2 + 3 ;");
         Dues.dueError(1, WHEN + "1=1+^;");
         Dues.dueError(1, WHEN + "1=1-^;");
         Dues.dueError(1, WHEN + "1=^+1;");
         Dues.dueError(1, WHEN + "1=1+^+1;");
-        Sentences.of(LANGUAGE, "product = value { ( \"*\" | \"/\" ) value }");
+    }
+
+    private static void theProducts() {
         dueEachToken("step q when 1 * 2 / 3 + 4 = 1 - 2 / 3 * 4 ;");
         Dues.dueError(1, WHEN + "1=1*^;");
         Dues.dueError(1, WHEN + "1=1/^;");
         Dues.dueError(1, WHEN + "1=^*1;");
         Dues.dueError(1, WHEN + "1=1*^/1;");
         Dues.dueError(1, WHEN + "1=1*^+1;");
-        Sentences.of(LANGUAGE, "value = number | \"evening\" | ( \"size\" | \"masks\" | \"steps\" ) name |"
-                + " \"-\" value | \"(\" sum \")\" | ( \"min\" | \"max\" ) \"(\" sum \",\" sum \")\"");
+    }
+
+    private static void theValues() {
         dueEachToken("step q when 1 + evening = - ( evening ) ;");
         dueEachToken("step q when size q + masks q = steps q ;");
         dueEachToken("step q when min ( 1 , 2 ) = max ( 1 , - - 2 ) ;");

@@ -16,23 +16,53 @@ final class BoundsOfWouldBe {
     }
 
     static void run() {
-        evenings();
-        stepsToFinish();
-        sizeAfterSteps();
-        endSame();
-        sizeAfterEvenings();
-        eveningsUntilFinished();
-        gifts();
-        theBestGift();
-        meanSize();
-        digest();
-        Sentences.end();
+        Sentences.of("Promise 29", "Lets evenings go by.", BoundsOfWouldBe::evenings);
+        Sentences.of("Promise 29", "Returns how many notes are carried out in them.", BoundsOfWouldBe::notesCarriedOut);
+        Sentences.of("Promise 29", "Throws `IllegalArgumentException` if evenings is not 1 to 20",
+                BoundsOfWouldBe::noEvenings);
+        Sentences.of("Promise 30", "Returns behind how many steps it is finished, 0 if it is now (nothing is changed).",
+                BoundsOfWouldBe::stepsToFinish);
+        NoSuchPlay.of("Promise 30", MaskPlays::stepsToFinish);
+        Sentences.of("Promise 30", "Throws `IllegalStateException` if it is not behind 40 steps, or a step ahead of that"
+                + " cannot be done", BoundsOfWouldBe::notBehind40Steps);
+        Sentences.of("Promise 31", "Returns how many parts it has behind so many steps, or behind all that can be done, if"
+                + " these are fewer (nothing is changed).", BoundsOfWouldBe::sizeAfterSteps);
+        NoSuchPlay.of("Promise 31", (x, play) -> x.sizeAfterSteps(play, 0));
+        NoSuchPlay.of("Promise 31", (x, play) -> x.sizeAfterSteps(play, 40));
+        Sentences.of("Promise 31", "Throws `IllegalArgumentException` if steps is not 0 to 40",
+                BoundsOfWouldBe::not0To40Steps);
+        Sentences.of("Promise 32", "Returns whether both are the same behind 40 steps each, or behind all that can be done,"
+                + " if these are fewer (nothing is changed).", BoundsOfWouldBe::endSame);
+        NoSuchPlay.of("Promise 32", (x, play) -> x.endSame(play, 0) ? 1 : 0);
+        NoSuchPlay.of("Promise 32", (x, play) -> x.endSame(0, play) ? 1 : 0);
+        Sentences.of("Promise 33", "Returns how many parts it has behind them, if nothing is done by hand (nothing is"
+                + " changed).", BoundsOfWouldBe::sizeAfterEvenings);
+        NoSuchPlay.of("Promise 33", (x, play) -> x.sizeAfterEvenings(play, 1));
+        NoSuchPlay.of("Promise 33", (x, play) -> x.sizeAfterEvenings(play, 20));
+        Sentences.of("Promise 33", "Throws `IllegalArgumentException` if evenings is not 1 to 20",
+                BoundsOfWouldBe::noEveningsThatWouldBe);
+        Sentences.of("Promise 34", "Returns behind how many evenings it is finished for the first time, if nothing is done by"
+                + " hand: 0 if it is now, at most 20; -1 if not by then (nothing is changed).",
+                BoundsOfWouldBe::eveningsUntilFinished);
+        NoSuchPlay.of("Promise 34", MaskPlays::eveningsUntilFinished);
+        Sentences.of("Promise 35", "Looks for the play that had best be given to one, of those that can be given: so that"
+                + " this is finished behind the fewest steps, 40 at most.", BoundsOfWouldBe::gifts);
+        Sentences.of("Promise 35", "Returns the play that is given, of several the smallest number; -1 if it would be"
+                + " finished so by none (nothing is changed).", BoundsOfWouldBe::theBestGift);
+        NoSuchPlay.of("Promise 35", MaskPlays::bestGift);
+        Sentences.of("Promise 36", "Returns the mean size of all plays; 0 without any.", BoundsOfWouldBe::meanSize);
+        Sentences.of("Promise 37", "Computes a checksum. A number d starts with 941; for each of the following numbers x, d"
+                + " becomes d * 31 + x, which wraps around as a 64-bit integer (whether something is so counts 1 or 0):"
+                + " actors(), plays(), notes(), evenings(), notesCarriedOut(), tapeBytes(); for each play sizeOf(),"
+                + " masksIn(), scenesIn(), mostMasksAround(), stepsDone(), isFinished(), isAsTold(), textLength(), then the"
+                + " letters and signs of its text, then for each actor standsIn() (all in their order).",
+                BoundsOfWouldBe::digest);
+        Sentences.of("Promise 37", "Returns d.", BoundsOfWouldBe::whatDigestReturns);
     }
 
     // ---- evenings
 
     private static void evenings() {
-        Sentences.of("Promise 29", "Lets evenings go by.");
         MaskPlays x = Dues.told(LONG + "step s41;");
         int gone = 0;
         for (int evenings : new int[] {1, 20, 19, 1, 20}) {
@@ -41,14 +71,18 @@ final class BoundsOfWouldBe {
             Dues.due("evenings", x.evenings(), gone);
             Dues.due("stepsDone", x.stepsDone(6), Math.min(41, gone));
         }
-        Sentences.of("Promise 29", "Returns how many notes are carried out in them.");
+    }
+
+    private static void notesCarriedOut() {
         MaskPlays y = Dues.told(LONG + "step s8; step s8 when evening=1; step s16; step s41 when 1=2;");
         Dues.due("passEvenings(1)", y.passEvenings(1), 2);
         Dues.due("passEvenings(2)", y.passEvenings(2), 5);
         Dues.due("passEvenings(20)", y.passEvenings(20), 8 - 4 + 16 - 3);
         Dues.due("passEvenings(20)", y.passEvenings(20), 0);
         Dues.due("notesCarriedOut", y.notesCarriedOut(), 24);
-        Sentences.of("Promise 29", "Throws `IllegalArgumentException` if evenings is not 1 to 20");
+    }
+
+    private static void noEvenings() {
         MaskPlays z = Dues.told(LONG + "step s41;");
         dueNotOneTo20(z, evenings -> z.passEvenings(evenings));
         Dues.due("passEvenings(1)", z.passEvenings(1), 1);
@@ -74,7 +108,6 @@ final class BoundsOfWouldBe {
     // ---- steps that would be
 
     private static void stepsToFinish() {
-        Sentences.of("Promise 30", "Returns behind how many steps it is finished, 0 if it is now (nothing is changed).");
         MaskPlays x = Dues.told(LONG);
         long before = x.digest();
         for (int n = 0; n <= 5; n++) {
@@ -83,9 +116,10 @@ final class BoundsOfWouldBe {
         }
         x.doStep(1);
         Dues.due("behind a step", x.stepsToFinish(1), 7);
-        BoundsOfCalls.dueNoSuchPlay("Promise 30", (y, play) -> y.stepsToFinish(play));
-        Sentences.of("Promise 30", "Throws `IllegalStateException` if it is not behind 40 steps, or a step ahead of that"
-                + " cannot be done");
+    }
+
+    private static void notBehind40Steps() {
+        MaskPlays x = Dues.told(LONG);
         Dues.due("behind 40 steps", x.stepsToFinish(5), 40);
         Dues.dueThrow("behind 41 steps", IllegalStateException.class, () -> x.stepsToFinish(6));
         x.doStep(6);
@@ -101,8 +135,6 @@ final class BoundsOfWouldBe {
     }
 
     private static void sizeAfterSteps() {
-        Sentences.of("Promise 31", "Returns how many parts it has behind so many steps, or behind all that can be done, if"
-                + " these are fewer (nothing is changed).");
         MaskPlays x = Dues.told(LONG + "play m is " + ODD + "; play n is [mask x([x x]) m]; play p is [i [i n]];"
                 + " play g is [mask x([x x x]) mask x([x x x])];");
         long before = x.digest();
@@ -115,9 +147,11 @@ final class BoundsOfWouldBe {
             Dues.due("up to 146 parts", x.sizeAfterSteps(10, steps), 13 + 7 * Math.min(19, steps));
         }
         Dues.due("digest", x.digest(), before);
-        BoundsOfCalls.dueNoSuchPlay("Promise 31", (y, play) -> y.sizeAfterSteps(play, 0));
-        BoundsOfCalls.dueNoSuchPlay("Promise 31", (y, play) -> y.sizeAfterSteps(play, 40));
-        Sentences.of("Promise 31", "Throws `IllegalArgumentException` if steps is not 0 to 40");
+    }
+
+    private static void not0To40Steps() {
+        MaskPlays x = Dues.told(LONG);
+        long before = x.digest();
         Dues.due("0 steps", x.sizeAfterSteps(5, 0), 121);
         Dues.due("40 steps", x.sizeAfterSteps(5, 40), 1);
         for (int steps : new int[] {-1, 41, Integer.MIN_VALUE, Integer.MAX_VALUE}) {
@@ -129,8 +163,6 @@ final class BoundsOfWouldBe {
     }
 
     private static void endSame() {
-        Sentences.of("Promise 32", "Returns whether both are the same behind 40 steps each, or behind all that can be done,"
-                + " if these are fewer (nothing is changed).");
         MaskPlays x = Dues.told(LONG + "play k is a; play y is [i [i mask w(w)]]; play l is [i a];");
         long before = x.digest();
         dueEnd(x, 5, 7, true);
@@ -152,8 +184,6 @@ final class BoundsOfWouldBe {
         dueEnd(y, 1, 2, false);
         dueEnd(y, 4, 4, true);
         dueEnd(y, 4, 5, false);
-        BoundsOfCalls.dueNoSuchPlay("Promise 32", (z, play) -> z.endSame(play, 0) ? 1 : 0);
-        BoundsOfCalls.dueNoSuchPlay("Promise 32", (z, play) -> z.endSame(0, play) ? 1 : 0);
     }
 
     private static void dueEnd(MaskPlays x, int a, int b, boolean want) {
@@ -164,8 +194,6 @@ final class BoundsOfWouldBe {
     // ---- evenings that would be
 
     private static void sizeAfterEvenings() {
-        Sentences.of("Promise 33", "Returns how many parts it has behind them, if nothing is done by hand (nothing is"
-                + " changed).");
         MaskPlays x = Dues.told(LONG + "play c is a; step s40; step s8; renew s8 when evening=18;"
                 + " give c to c when steps s40=20; give c to c when evening=19;");
         long before = x.digest();
@@ -184,9 +212,9 @@ final class BoundsOfWouldBe {
         Dues.due("c from now on", x.sizeAfterEvenings(7, 18), 3);
         Dues.due("stepsDone", x.stepsDone(5), 2);
         Dues.due("evenings", x.evenings(), 1);
-        BoundsOfCalls.dueNoSuchPlay("Promise 33", (y, play) -> y.sizeAfterEvenings(play, 1));
-        BoundsOfCalls.dueNoSuchPlay("Promise 33", (y, play) -> y.sizeAfterEvenings(play, 20));
-        Sentences.of("Promise 33", "Throws `IllegalArgumentException` if evenings is not 1 to 20");
+    }
+
+    private static void noEveningsThatWouldBe() {
         MaskPlays z = Dues.told(LONG + "step s40;");
         dueNotOneTo20(z, evenings -> z.sizeAfterEvenings(5, evenings));
         Dues.due("1 evening", z.sizeAfterEvenings(5, 1), 118);
@@ -194,8 +222,6 @@ final class BoundsOfWouldBe {
     }
 
     private static void eveningsUntilFinished() {
-        Sentences.of("Promise 34", "Returns behind how many evenings it is finished for the first time, if nothing is done by"
-                + " hand: 0 if it is now, at most 20; -1 if not by then (nothing is changed).");
         MaskPlays x = Dues.told(LONG + "play t is [i [i [i [i s16]]]]; play u is [i t]; play v is [i a]; step s8; step s16;"
                 + " step t; step u; step v; renew v when evening<5; give i to v when evening=7;");
         long before = x.digest();
@@ -216,14 +242,11 @@ final class BoundsOfWouldBe {
         x.passEvenings(7);
         Dues.due("now", x.eveningsUntilFinished(1), 0);
         Dues.due("evenings", x.evenings(), 8);
-        BoundsOfCalls.dueNoSuchPlay("Promise 34", (y, play) -> y.eveningsUntilFinished(play));
     }
 
     // ---- the best gift
 
     private static void gifts() {
-        Sentences.of("Promise 35", "Looks for the play that had best be given to one, of those that can be given: so that"
-                + " this is finished behind the fewest steps, 40 at most.");
         // To f and then to g: one step, and two, and then all those of what is given.
         MaskPlays x = Dues.told("actor a; play l is [mask x(x) [mask x(x) a]]; play m is [mask x(x) a]; play n is a;"
                 + " play f is mask y([a y]); play g is [mask w(w) f];");
@@ -238,7 +261,6 @@ final class BoundsOfWouldBe {
         Dues.due("to n, which is as long as m", x.bestGift(2), 3);
         fortyAtMost();
         theyCanBeGiven();
-        BoundsOfCalls.dueNoSuchPlay("Promise 35", (y, play) -> y.bestGift(play));
     }
 
     /** Each of these plays has a step at least: so a gift to one of 39 steps makes 40, to one of 40 too many. */
@@ -272,8 +294,6 @@ final class BoundsOfWouldBe {
     }
 
     private static void theBestGift() {
-        Sentences.of("Promise 35", "Returns the play that is given, of several the smallest number; -1 if it would be"
-                + " finished so by none (nothing is changed).");
         String loop = "[mask x([x x]) mask x([x x])]";
         StringBuilder book = new StringBuilder("actor a; ");
         for (int n = 0; n < 10; n++) {
@@ -304,7 +324,6 @@ final class BoundsOfWouldBe {
     // ---- sums of all
 
     private static void meanSize() {
-        Sentences.of("Promise 36", "Returns the mean size of all plays; 0 without any.");
         dueMean("", 0.0);
         dueMean("actor a; actor b;", 0.0);
         dueMean("actor a; play p is a;", 1.0);
@@ -339,11 +358,6 @@ final class BoundsOfWouldBe {
     }
 
     private static void digest() {
-        Sentences.of("Promise 37", "Computes a checksum. A number d starts with 941; for each of the following numbers x, d"
-                + " becomes d * 31 + x, which wraps around as a 64-bit integer (whether something is so counts 1 or 0):"
-                + " actors(), plays(), notes(), evenings(), notesCarriedOut(), tapeBytes(); for each play sizeOf(),"
-                + " masksIn(), scenesIn(), mostMasksAround(), stepsDone(), isFinished(), isAsTold(), textLength(), then the"
-                + " letters and signs of its text, then for each actor standsIn() (all in their order).");
         Dues.due("of nothing", new MaskPlays().digest(), 941L * 31 * 31 * 31 * 31 * 31 * 31);
         MaskPlays x = Dues.told("actor a; actor b; actor c; play p is [mask x(mask y([a [y x]])) mask z(b)];"
                 + " play q is [[a b] [b b]]; play r is [p q]; step p; step r; give q to q when evening=1;");
@@ -354,11 +368,13 @@ final class BoundsOfWouldBe {
         dueDigest(x);
         x.passEvenings(20);
         dueDigest(x);
-        MaskPlays one = Dues.told("play p is mask x(x);");
-        dueDigest(one);
+        dueDigest(Dues.told("play p is mask x(x);"));
         dueDigest(Dues.told("actor a;"));
         dueDigest(Dues.told(LONG + "step s8; step s16; step s24; step s32; step s40; step s41;"));
-        Sentences.of("Promise 37", "Returns d.");
+    }
+
+    private static void whatDigestReturns() {
+        MaskPlays one = Dues.told("play p is mask x(x);");
         Dues.due("of one play, number by number", one.digest(), digestOf(0, 1, 0, 0, 0, 0, 2, 1, 0, 1, 0, 1, 1, 9, 'm', 'a',
                 's', 'k', ' ', 'x', '(', 'x', ')'));
         Dues.due("the same again", one.digest(), one.digest());

@@ -11,6 +11,7 @@ final class BoundsTest {
         BoundsOfSteps.run();
         BoundsOfEvenings.run();
         BoundsOfCalls.run();
+        BoundsOfPlays.run();
         BoundsOfWouldBe.run();
         whatNeedsNoTest();
         Sentences.dueThatNoneIsLeft();

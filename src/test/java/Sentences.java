@@ -14,26 +14,30 @@ final class Sentences {
     private static final Map<String, String> SECTIONS = sections();
     /** Of each sign of a section, whether it stands in a sentence that was named. */
     private static final Map<String, boolean[]> NAMED = new LinkedHashMap<>();
-    private static int askedBefore = -1;
-
     private Sentences() {
     }
 
-    /** What is asked from now on is asked of this sentence. */
-    static void of(String section, String sentence) {
-        end();
+    /** The test is of this sentence. If it throws, it fails, and the others are run all the same. */
+    static void of(String section, String sentence, Runnable test) {
         name(section, sentence);
         Dues.about("(" + section + ": " + sentence + ") ");
-        askedBefore = Dues.asked();
+        int before = Dues.asked();
+        try {
+            test.run();
+        } catch (RuntimeException e) {
+            Dues.due("a call at " + lineOfTest(e), e.toString(), "no exception");
+        }
+        Dues.due("answers that were asked for", Dues.asked() > before, true);
+        Dues.about("");
     }
 
-    /** Behind the last one of a row of sentences. */
-    static void end() {
-        Dues.about("");
-        if (askedBefore >= 0) {
-            Dues.due("a test that asks something", Dues.asked() > askedBefore, true);
+    private static String lineOfTest(RuntimeException e) {
+        for (StackTraceElement call : e.getStackTrace()) {
+            if (call.getClassName().startsWith("Bounds")) {
+                return call.toString();
+            }
         }
-        askedBefore = -1;
+        return "no line of a test";
     }
 
     /** A sentence that names nothing which an answer could miss. */
