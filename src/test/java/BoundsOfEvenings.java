@@ -315,18 +315,24 @@ final class BoundsOfEvenings {
     private static void throwingChangesNothing() {
         String even = "mask u([" + "a ".repeat(38) + "])";
         MaskPlays x = Dues.told("actor a; " + ID + "play p is [mask x([x x x]) " + even + "]; play q is [i a]; " + SELF
-                + "step q; renew q when evening=2; give i to i when evening=1;");
+                + "play r is [i p]; step q; renew q when evening=2; give i to i when evening=1;");
         x.passEvenings(2);
         Dues.due("teach", Dues.teach(x, "actor b; step q;"), 3);
         Dues.feed(x, " ".repeat(1981));
         x.give(1, 0);
         long before = x.digest();
-        Dues.Call[] calls = {() -> x.feed(1, 2, 3, 4, 5), () -> x.trim(-1), () -> x.trim(1982), () -> x.sizeOf(4),
-            () -> x.letterAt(0, 1000), () -> x.nextSceneAt(2), () -> x.renamedByStep(1), () -> x.renamedByStep(2),
-            () -> x.doStep(1), () -> x.doStep(2), () -> x.doStep(4), () -> x.give(1, 0), () -> x.give(1, 1),
-            () -> x.give(4, 0), () -> x.give(0, 4), () -> x.renew(4), () -> x.renew(-1), () -> x.passEvenings(0),
-            () -> x.passEvenings(21), () -> x.stepsToFinish(1), () -> x.stepsToFinish(3), () -> x.sizeAfterSteps(0, 41),
-            () -> x.sizeAfterEvenings(0, 21), () -> x.bestGift(4), () -> x.eveningsUntilFinished(4)};
+        Dues.Call[] calls = {() -> x.feed(1, 2, 3, 4, 5), () -> x.trim(-1), () -> x.trim(1982), () -> x.sizeOf(5),
+            () -> x.masksIn(5), () -> x.scenesIn(5), () -> x.mostMasksAround(5), () -> x.standsIn(0, 1),
+            () -> x.standsIn(5, 0), () -> x.stepsDone(5), () -> x.isFinished(5) ? 1 : 0, () -> x.canStep(5) ? 1 : 0,
+            () -> x.textLength(5), () -> x.letterAt(0, 1000), () -> x.letterAt(5, 0), () -> x.nextSceneAt(2),
+            () -> x.nextSceneAt(5), () -> x.renamedByStep(1), () -> x.renamedByStep(2), () -> x.renamedByStep(5),
+            () -> x.isSame(0, 5) ? 1 : 0, () -> x.isSame(5, 0) ? 1 : 0, () -> x.isAsTold(5) ? 1 : 0,
+            () -> x.doStep(1), () -> x.doStep(2), () -> x.doStep(5), () -> x.give(1, 0), () -> x.give(1, 1),
+            () -> x.give(5, 0), () -> x.give(0, 5), () -> x.renew(5), () -> x.renew(-1), () -> x.passEvenings(0),
+            () -> x.passEvenings(21), () -> x.stepsToFinish(1), () -> x.stepsToFinish(3), () -> x.stepsToFinish(4),
+            () -> x.stepsToFinish(5), () -> x.sizeAfterSteps(0, 41), () -> x.sizeAfterSteps(5, 0),
+            () -> x.endSame(0, 5) ? 1 : 0, () -> x.endSame(5, 0) ? 1 : 0, () -> x.sizeAfterEvenings(0, 21),
+            () -> x.sizeAfterEvenings(5, 1), () -> x.eveningsUntilFinished(5), () -> x.bestGift(5)};
         for (int n = 0; n < calls.length; n++) {
             Dues.due("call " + n + " throws", Dues.thrownBy(calls[n]).endsWith("Exception"), true);
             Dues.due("digest behind call " + n, x.digest(), before);

@@ -6,9 +6,9 @@ final class BoundsOfPlays {
     private static final String EVEN = "mask u([" + "a ".repeat(37) + "])";
     private static final String[] PARTS = {"a", "mask x(x)", "[a a]", "[" + "a ".repeat(75) + "]",
         "mask x([" + "a ".repeat(75) + "])", "mask x(mask y([x mask z([y z])]))", "[" + "mask x(x) ".repeat(50) + "]"};
-    private static final String FIVE = "actor a; actor abcdefghij; play p is a; play q is abcdefghij; play r is mask x(x);"
+    private static final String SIX_PLAYS = "actor a; actor abcdefghij; play p is a; play q is abcdefghij; play r is mask x(x);"
             + " play s is [a a]; play t is [" + "a ".repeat(75) + "]; play u is mask abcdefghi0(mask x([x a]));";
-    private static final String[] TEXTS_OF_FIVE = {"a", "abcdefghij", "mask x(x)", "[a a]",
+    private static final String[] SIX_TEXTS = {"a", "abcdefghij", "mask x(x)", "[a a]",
         "[".repeat(74) + "a" + " a]".repeat(74), "mask abcdefghi0(mask x([x a]))"};
     private static final String ACTORS = "play l is mask a(mask b([a b])); actor a; actor b; actor c; play p is [l a];"
             + " play q is [" + "a ".repeat(75) + "]; play r is mask x([a [b mask y([a x])]]); play s is c;";
@@ -219,7 +219,7 @@ final class BoundsOfPlays {
     // ---- texts
 
     private static void textLengths() {
-        MaskPlays x = Dues.told(FIVE);
+        MaskPlays x = Dues.told(SIX_PLAYS);
         int[] lengths = {1, 10, 9, 5, 75 + 3 * 74, 17 + 8 + 5};
         for (int play = 0; play < lengths.length; play++) {
             Dues.due("textLength " + play, x.textLength(play), lengths[play]);
@@ -228,24 +228,24 @@ final class BoundsOfPlays {
     }
 
     private static void placesFrom0() {
-        MaskPlays x = Dues.told(FIVE);
+        MaskPlays x = Dues.told(SIX_PLAYS);
         Dues.due("letterAt 0", x.letterAt(3, 0), '[');
         Dues.due("letterAt 1", x.letterAt(3, 1), 'a');
         Dues.due("letterAt 4", x.letterAt(3, 4), ']');
     }
 
     private static void letters() {
-        MaskPlays x = Dues.told(FIVE);
-        for (int play = 0; play < TEXTS_OF_FIVE.length; play++) {
-            Dues.dueText(x, play, TEXTS_OF_FIVE[play]);
+        MaskPlays x = Dues.told(SIX_PLAYS);
+        for (int play = 0; play < SIX_TEXTS.length; play++) {
+            Dues.dueText(x, play, SIX_TEXTS[play]);
         }
         Dues.dueText(theDeepest(), 0, "mask yyyyyyyyyy(".repeat(146) + "zzzzzzzzzz" + ")".repeat(146));
     }
 
     private static void noSuchPlace() {
-        MaskPlays x = Dues.told(FIVE);
-        for (int play = 0; play < TEXTS_OF_FIVE.length; play++) {
-            dueNoPlace(x, play, TEXTS_OF_FIVE[play]);
+        MaskPlays x = Dues.told(SIX_PLAYS);
+        for (int play = 0; play < SIX_TEXTS.length; play++) {
+            dueNoPlace(x, play, SIX_TEXTS[play]);
         }
         dueNoPlace(theDeepest(), 0, "mask yyyyyyyyyy(".repeat(146) + "zzzzzzzzzz" + ")".repeat(146));
         for (int play : new int[] {-1, 6, 12, Integer.MIN_VALUE, Integer.MAX_VALUE}) {
